@@ -1,0 +1,32 @@
+/** Makes objects that hold a picture, and small rows of levels. */
+final class Pictures {
+    private Pictures() {
+    }
+
+    static Bytes bytes(Bits parameters, PictureWriter picture) {
+        return new Bytes().unit(1, parameters.toBytes()).unit(2, picture.toBytes());
+    }
+
+    /** An object that has decoded these parameters and this picture. */
+    static IntraPicture decoded(Check check, String name, Bits parameters, PictureWriter picture, int leaves) {
+        IntraPicture x = bytes(parameters, picture).fed();
+        check.due(name + ": decode()", x.decode(), leaves);
+        return x;
+    }
+
+    static int[][] none(int side) {
+        return new int[side][side];
+    }
+
+    /** Levels that are 0 but for one. */
+    static int[][] one(int side, int x, int y, int level) {
+        int[][] levels = new int[side][side];
+        levels[y][x] = level;
+        return levels;
+    }
+
+    /** A first block of four leaves that are all 128. */
+    static PictureWriter greyBlock(PictureWriter picture) {
+        return picture.block(true).leaf(1, none(4)).leaf(1, null).leaf(1, null).leaf(1, null);
+    }
+}
