@@ -15,6 +15,8 @@ public final class ParametersTest {
         wrongNumbers();
         aFaultLeavesTheParametersBefore();
         decodeBeginsWithoutParameters();
+        aStartMayCutParameters();
+        aFaultIsGoneWithItsCause();
         CHECK.end();
     }
 
@@ -152,5 +154,36 @@ public final class ParametersTest {
         Bytes.of(0, 0, 1, 7, 0x80).feedTo(x);
         CHECK.due("another kind", x.decode(), -1);
         CHECK.due("no parameters", x.parameter(0), -100);
+    }
+
+    private static void aStartMayCutParameters() {
+        // The last five bits lie in a byte 0, and one more such byte is behind: with a 1 they are a start.
+        Bits bits = Bits.head(0, 0, 0, 0, 3).offsets(1, 1, 0, 2).number(0, 3);
+        CHECK.due("21 bits", bits.count(), 21);
+        IntraPicture x = new Bytes().raw(0, 0, 1, 1).raw(bits.toBytes()).raw(0).fed();
+        CHECK.due("whole: decode()", x.decode(), -1);
+        parametersAre("whole", x, 0, 0, 0, 0, 3, 1, 1, 0, 2, 0);
+        CHECK.due("feed(1, 1)", x.feed(1, 1), true);
+        parametersAre("not decoded again", x, 0, 0, 0, 0, 3, 1, 1, 0, 2, 0);
+        CHECK.due("cut: units()", x.units(), 2);
+        CHECK.due("cut: decode()", x.decode(), -4);
+        parametersAre("cut", x);
+    }
+
+    private static void aFaultIsGoneWithItsCause() {
+        IntraPicture x = new Bytes().unit(1, 0b01000001).fed();
+        CHECK.due("offsets are not there yet", x.decode(), -4);
+        x.feed(0b11110000, 1);
+        CHECK.due("now they are", x.decode(), -1);
+        parametersAre("now", x, 1, 0, 0, 0, 1, 0, 0, 0, 0, 0);
+        for (int fault : new int[] {0x01, 0x20}) {
+            x.clear();
+            new Bytes().unit(1, fault).feedTo(x);
+            CHECK.due("a fault", x.decode(), fault == 0x01 ? -3 : -4);
+            x.clear();
+            new Bytes().unit(1, 0x80).feedTo(x);
+            CHECK.due("cleared", x.decode(), -1);
+            parametersAre("cleared", x, 0, 0, 0, 0, 0, 0, 0, 0, 0, 0);
+        }
     }
 }

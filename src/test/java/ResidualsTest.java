@@ -28,7 +28,7 @@ public final class ResidualsTest {
         return (int) Math.max(0, Math.min(255, number));
     }
 
-    /** The second leaf of a grey picture has these levels; its sample at (x, y). */
+    /** A grey picture whose second leaf, at (4, 0), has these levels. */
     private static IntraPicture small(int qp, int skips, boolean skip, int[][] levels) {
         PictureWriter picture = new PictureWriter(false, skips == 1).block(true).leaf(1, Pictures.none(4));
         picture.leaf(1, skip, levels).leaf(1, null).leaf(1, null);
@@ -36,6 +36,7 @@ public final class ResidualsTest {
         return Pictures.decoded(CHECK, "small", Bits.head(qp, 0, skips, 0, 0), picture, 7);
     }
 
+    /** A grey picture whose second block, at (8, 0), is one leaf with these levels. */
     private static IntraPicture large(int qp, int[][] levels) {
         PictureWriter picture = Pictures.greyBlock(new PictureWriter(false, false));
         picture.block(false).leaf(1, levels).block(false).leaf(1, null).block(false).leaf(1, null);
