@@ -45,7 +45,7 @@ final class Bytes {
     }
 
     /** Feeds all bytes, at most eight a call; false if a call was refused. */
-    boolean feedTo(IntraPicture x) {
+    boolean feedTo(Subject x) {
         for (int from = 0; from < row.size(); from += 8) {
             int n = Math.min(8, row.size() - from);
             if (!x.feed(packed(from, n), n)) {
@@ -63,8 +63,8 @@ final class Bytes {
         return v;
     }
 
-    IntraPicture fed() {
-        IntraPicture x = new IntraPicture();
+    Subject fed() {
+        Subject x = new Subject();
         if (!feedTo(x)) {
             throw new IllegalStateException("the test feeds more than 240 bytes");
         }

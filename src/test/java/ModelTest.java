@@ -29,19 +29,19 @@ public final class ModelTest {
         return below(in) == 0;
     }
 
-    private static void feedBoth(Bytes bytes, IntraPicture x, Model model) {
+    private static void feedBoth(Bytes bytes, Subject x, Model model) {
         int[] all = bytes.toArray();
         for (int b : all) {
             CHECK.due("feed", x.feed(b, 1), model.feed(b, 1));
         }
     }
 
-    private static void compareDecode(String name, IntraPicture x, Model model) {
+    private static void compareDecode(String name, Subject x, Model model) {
         CHECK.due(name + ": decode()", x.decode(), model.decode());
         compareAnswers(name, x, model);
     }
 
-    private static void compareAnswers(String name, IntraPicture x, Model model) {
+    private static void compareAnswers(String name, Subject x, Model model) {
         for (int k = -1; k <= 14; k++) {
             CHECK.due(name + ": parameter(" + k + ")", x.parameter(k), model.parameter(k));
             CHECK.due(name + ": chance(" + k + ")", x.chance(k), model.chance(k));
@@ -60,7 +60,7 @@ public final class ModelTest {
         }
     }
 
-    private static void compareUnits(String name, IntraPicture x, Model model) {
+    private static void compareUnits(String name, Subject x, Model model) {
         int units = model.units();
         CHECK.due(name + ": units()", x.units(), units);
         for (int i = -1; i <= units; i++) {
@@ -72,7 +72,7 @@ public final class ModelTest {
     }
 
     private void wildBytes() {
-        IntraPicture x = new IntraPicture();
+        Subject x = new Subject();
         Model model = new Model();
         int length = below(245);
         for (int i = 0; i < length; i++) {
@@ -101,7 +101,7 @@ public final class ModelTest {
     }
 
     private void wildPicture() {
-        IntraPicture x = new IntraPicture();
+        Subject x = new Subject();
         Model model = new Model();
         int[] parameters = someParameters(below(52), below(2), below(2)).toBytes(below(2));
         feedBoth(new Bytes().unit(1, parameters).unit(2, wild(below(100))), x, model);
@@ -143,7 +143,7 @@ public final class ModelTest {
     }
 
     private void writtenPictures() {
-        IntraPicture x = new IntraPicture();
+        Subject x = new Subject();
         Model model = new Model();
         int hide = below(2);
         int skips = below(2);
@@ -158,58 +158,81 @@ public final class ModelTest {
         compareDecode("written picture, then a wild one", x, model);
     }
 
-    /** Up to 512 calls of all kinds on one object. */
+    /** 512 calls of all kinds on one object. */
     private void longLife() {
         IntraPicture x = new IntraPicture();
         Model model = new Model();
-        for (int call = 0; call < 500; call++) {
-            int a = below(20) - 2;
-            int b = below(20) - 2;
-            switch (below(12)) {
-                case 0:
-                    CHECK.due("feed", x.feed(0x8001010000L, 5), model.feed(0x8001010000L, 5));
-                    break;
-                case 1:
-                    long start = 0x02010000L + ((long) below(1 << 24) << 32);
-                    CHECK.due("feed", x.feed(start, 7), model.feed(start, 7));
-                    break;
-                case 2:
-                    long v = (long) below(1 << 30) << 34 | below(1 << 30);
-                    CHECK.due("feed", x.feed(v, a), model.feed(v, a));
-                    break;
-                case 3:
-                    if (once(12)) {
-                        x.clear();
-                        model.clear();
-                    }
-                    break;
-                case 4:
-                    CHECK.due("decode", x.decode(), model.decode());
-                    break;
-                case 5:
-                    CHECK.due("units", x.units(), model.units());
-                    CHECK.due("payload", x.payload(a, b), model.payload(a, b));
-                    break;
-                case 6:
-                    CHECK.due("parameter", x.parameter(a), model.parameter(a));
-                    CHECK.due("chance", x.chance(a), model.chance(a));
-                    break;
-                case 7:
-                    CHECK.due("sample", x.sample(a, b), model.sample(a, b));
-                    CHECK.due("plain", x.plain(a, b), model.plain(a, b));
-                    break;
-                case 8:
-                    CHECK.due("predicted", x.predicted(a, b), model.predicted(a, b));
-                    CHECK.due("level", x.level(a, b), model.level(a, b));
-                    break;
-                case 9:
-                    CHECK.due("mode", x.mode(a, b), model.mode(a, b));
-                    CHECK.due("side", x.side(a, b), model.side(a, b));
-                    break;
-                default:
-                    CHECK.due("took", x.took(a), model.took(a));
-                    break;
+        for (int call = 0; call < Subject.MOST_CALLS; call++) {
+            if (once(3)) {
+                changeBoth(x, model);
+            } else {
+                askBoth(x, model);
             }
+        }
+    }
+
+    private void changeBoth(IntraPicture x, Model model) {
+        switch (below(4)) {
+            case 0:
+                CHECK.due("feed", x.feed(0x8001010000L, 5), model.feed(0x8001010000L, 5));
+                break;
+            case 1:
+                long picture = 0x02010000L + ((long) below(1 << 24) << 32);
+                CHECK.due("feed", x.feed(picture, 7), model.feed(picture, 7));
+                break;
+            case 2:
+                long v = (long) below(1 << 30) << 34 | below(1 << 30);
+                int n = below(12) - 1;
+                CHECK.due("feed", x.feed(v, n), model.feed(v, n));
+                break;
+            default:
+                if (once(20)) {
+                    x.clear();
+                    model.clear();
+                } else {
+                    CHECK.due("decode", x.decode(), model.decode());
+                }
+                break;
+        }
+    }
+
+    private void askBoth(IntraPicture x, Model model) {
+        int a = below(20) - 2;
+        int b = below(20) - 2;
+        switch (below(11)) {
+            case 0:
+                CHECK.due("units", x.units(), model.units());
+                break;
+            case 1:
+                CHECK.due("payload", x.payload(a, b), model.payload(a, b));
+                break;
+            case 2:
+                CHECK.due("parameter", x.parameter(a), model.parameter(a));
+                break;
+            case 3:
+                CHECK.due("chance", x.chance(a), model.chance(a));
+                break;
+            case 4:
+                CHECK.due("took", x.took(a), model.took(a));
+                break;
+            case 5:
+                CHECK.due("sample", x.sample(a, b), model.sample(a, b));
+                break;
+            case 6:
+                CHECK.due("plain", x.plain(a, b), model.plain(a, b));
+                break;
+            case 7:
+                CHECK.due("predicted", x.predicted(a, b), model.predicted(a, b));
+                break;
+            case 8:
+                CHECK.due("level", x.level(a, b), model.level(a, b));
+                break;
+            case 9:
+                CHECK.due("mode", x.mode(a, b), model.mode(a, b));
+                break;
+            default:
+                CHECK.due("side", x.side(a, b), model.side(a, b));
+                break;
         }
     }
 }

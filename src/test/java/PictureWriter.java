@@ -18,6 +18,7 @@ final class PictureWriter {
     private final int[][] modes = new int[4][4];
     private BigInteger low = BigInteger.ZERO;
     private int range = 510;
+    private int rangeBeforeDoubling = 510;
     private int bitsRead = 8;
     private int bins = 0;
     private int freeBits = 0;
@@ -42,6 +43,7 @@ final class PictureWriter {
             range = part;
         }
         chances[context] = bin == 1 ? p + (1023 - p) / 16 : p - p / 16;
+        rangeBeforeDoubling = range;
         while (range < 256) {
             range *= 2;
             low = low.shiftLeft(1);
@@ -204,21 +206,39 @@ final class PictureWriter {
         return k == 0 ? bins : k == 1 ? freeBits : bitsRead;
     }
 
-    /** The rest's bytes; zeros at the end are left away, for beyond the end all bits are 0. */
+    /** What RANGE was behind the latest bin, before it was doubled. */
+    int rangeBeforeDoubling() {
+        return rangeBeforeDoubling;
+    }
+
+    /** The lowest bits that stand for the picture; zeros at the end are left away, for beyond the end all bits are 0. */
     int[] toBytes() {
-        if (low.bitLength() > bitsRead) {
-            throw new IllegalStateException("no bits can stand for these bins");
-        }
-        int bytes = (bitsRead + 7) / 8;
-        BigInteger all = low.shiftLeft(8 * bytes - bitsRead);
-        int[] row = new int[bytes];
-        for (int i = 0; i < bytes; i++) {
-            row[i] = all.shiftRight(8 * (bytes - 1 - i)).intValue() & 255;
-        }
-        int length = bytes;
+        int[] row = bytesOf(low, 0);
+        int length = row.length;
         while (length > 0 && row[length - 1] == 0) {
             length--;
         }
         return java.util.Arrays.copyOf(row, length);
+    }
+
+    /** The highest bits that stand for the picture, and then bits 1. */
+    int[] toHighestBytes() {
+        return bytesOf(low.add(BigInteger.valueOf(range - 1)), 1);
+    }
+
+    private int[] bytesOf(BigInteger bits, int filler) {
+        if (bits.bitLength() > bitsRead) {
+            throw new IllegalStateException("no bits can stand for these bins");
+        }
+        int bytes = (bitsRead + 7) / 8;
+        BigInteger all = bits;
+        for (int i = bitsRead; i < 8 * bytes; i++) {
+            all = all.shiftLeft(1).add(BigInteger.valueOf(filler));
+        }
+        int[] row = new int[bytes];
+        for (int i = 0; i < bytes; i++) {
+            row[i] = all.shiftRight(8 * (bytes - 1 - i)).intValue() & 255;
+        }
+        return row;
     }
 }

@@ -8,8 +8,8 @@ final class Pictures {
     }
 
     /** An object that has decoded these parameters and this picture. */
-    static IntraPicture decoded(Check check, String name, Bits parameters, PictureWriter picture, int leaves) {
-        IntraPicture x = bytes(parameters, picture).fed();
+    static Subject decoded(Check check, String name, Bits parameters, PictureWriter picture, int leaves) {
+        Subject x = bytes(parameters, picture).fed();
         check.due(name + ": decode()", x.decode(), leaves);
         return x;
     }

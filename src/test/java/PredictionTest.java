@@ -1,18 +1,15 @@
-/** Promise 10: what is predicted from the samples round a leaf, in each mode. */
+/** PREDICTION and promise 10: what is predicted from the samples round a leaf, in each mode. */
 public final class PredictionTest {
     private static final Check CHECK = new Check("PredictionTest");
     // With QP 4 and SKIP a residual is its level.
     private static final Bits PARAMETERS = Bits.head(4, 0, 1, 0, 0);
 
+    // Which small leaves have what lies above them to the right, and which what lies to the left below, by rows of leaves.
+    private static final String[] ABOVE_RIGHT = {"....", "y.y.", "yyy.", "y.y."};
+    private static final String[] LEFT_BELOW = {"..y.", "....", "..y.", "...."};
+
     public static void main(String[] args) {
-        for (int mode = 0; mode < 8; mode++) {
-            largeBelowARisingRow(mode);
-            smallBelowARisingRow(mode);
-            largeBesideAFallingColumn(mode);
-            smallBesideAFallingColumn(mode);
-        }
-        referencesThatAreNotThere();
-        referencesAreTakenBeforeEdgesAndOffsets();
+        CHECK.runAll(PredictionTest.class);
         CHECK.end();
     }
 
@@ -20,7 +17,7 @@ public final class PredictionTest {
         int at(int x, int y);
     }
 
-    private static void predictedAre(String name, IntraPicture picture, int left, int top, int side, Due due) {
+    private static void predictedAre(String name, Subject picture, int left, int top, int side, Due due) {
         for (int y = 0; y < side; y++) {
             for (int x = 0; x < side; x++) {
                 String call = name + ": predicted(" + (left + x) + ", " + (top + y) + ")";
@@ -54,7 +51,7 @@ public final class PredictionTest {
         return picture.leaf(3, true, lowestRow(-64, 8)).leaf(3, true, lowestRow(-32, 8));
     }
 
-    private static void rowIsRising(IntraPicture x) {
+    private static void rowIsRising(Subject x) {
         for (int k = 0; k < 16; k++) {
             CHECK.due("plain(" + k + ", 7)", x.plain(k, 7), 8 * k);
             CHECK.due("plain(" + k + ", 6)", x.plain(k, 6), 128);
@@ -63,7 +60,7 @@ public final class PredictionTest {
 
     private static void largeBelowARisingRow(int mode) {
         PictureWriter picture = aboveARisingRow().block(false).leaf(mode, null).block(false).leaf(1, null);
-        IntraPicture decoded = Pictures.decoded(CHECK, "rising", PARAMETERS, picture, 10);
+        Subject decoded = Pictures.decoded(CHECK, "rising", PARAMETERS, picture, 10);
         rowIsRising(decoded);
         // Nothing is to the left: LEFT and the CORNER are ABOVE(0), which is 0 and becomes 2 where it is smoothed.
         Due[] due = {
@@ -81,7 +78,7 @@ public final class PredictionTest {
     private static void smallBelowARisingRow(int mode) {
         PictureWriter picture = aboveARisingRow().block(true).leaf(mode, null).leaf(1, null).leaf(1, null).leaf(1, null);
         picture.block(false).leaf(1, null);
-        IntraPicture decoded = Pictures.decoded(CHECK, "rising", PARAMETERS, picture, 13);
+        Subject decoded = Pictures.decoded(CHECK, "rising", PARAMETERS, picture, 13);
         rowIsRising(decoded);
         Due[] due = {
             (x, y) -> ((x + 1) * 32 + (3 - y) * 8 * x + 4) / 8,
@@ -102,7 +99,7 @@ public final class PredictionTest {
         return picture.leaf(1, null).leaf(2, true, rightColumn(40, -8));
     }
 
-    private static void columnIsFalling(IntraPicture x) {
+    private static void columnIsFalling(Subject x) {
         for (int k = 0; k < 8; k++) {
             CHECK.due("plain(7, " + k + ")", x.plain(7, k), 200 - 8 * k);
             CHECK.due("plain(6, " + k + ")", x.plain(6, k), 128);
@@ -116,7 +113,7 @@ public final class PredictionTest {
     private static void largeBesideAFallingColumn(int mode) {
         PictureWriter picture = leftOfAFallingColumn().block(false).leaf(mode, null);
         picture.block(false).leaf(1, null).block(false).leaf(1, null);
-        IntraPicture decoded = Pictures.decoded(CHECK, "falling", PARAMETERS, picture, 7);
+        Subject decoded = Pictures.decoded(CHECK, "falling", PARAMETERS, picture, 7);
         columnIsFalling(decoded);
         // Nothing is above: the CORNER and ABOVE are LEFT(0); below 7 all of LEFT is LEFT(7).
         int[] smooth = {198, 192, 184, 176, 168, 160, 152, 146};
@@ -140,7 +137,7 @@ public final class PredictionTest {
         PictureWriter picture = leftOfAFallingColumn().block(true);
         picture.leaf(mode, null).leaf(1, null).leaf(1, null).leaf(1, null);
         picture.block(false).leaf(1, null).block(false).leaf(1, null);
-        IntraPicture decoded = Pictures.decoded(CHECK, "falling", PARAMETERS, picture, 10);
+        Subject decoded = Pictures.decoded(CHECK, "falling", PARAMETERS, picture, 10);
         columnIsFalling(decoded);
         // The leaf to the left that lies lower came before: LEFT goes on to 7.
         Due[] due = {
@@ -158,13 +155,243 @@ public final class PredictionTest {
         predictedAre("small, mode " + mode, decoded, 8, 0, 4, due[mode]);
     }
 
-    private static void referencesThatAreNotThere() {
-        // The last leaf of the first block: what lies above it to the right is not there yet.
+    private static void inAllPlaces(int mode) {
+        largeBelowARisingRow(mode);
+        smallBelowARisingRow(mode);
+        largeBesideAFallingColumn(mode);
+        smallBesideAFallingColumn(mode);
+        amongOthers(mode, 8);
+        amongOthers(mode, 4);
+    }
+
+    /** Levels at three corners of a leaf, so that the samples round the next leaves differ. */
+    private static int[][] dots(int side, int number) {
+        int[][] levels = Pictures.one(side, side - 1, side - 1, 20 - 3 * number);
+        levels[0][side - 1] = 5 * number - 31;
+        levels[side - 1][0] = 17 + number;
+        return levels;
+    }
+
+    /** A picture of small leaves with dots, mode 1 but for one leaf. */
+    private static Subject smallDots(int leafX, int leafY, int mode) {
+        PictureWriter picture = new PictureWriter(false, true);
+        for (int i = 0; i < 16; i++) {
+            int x = i / 4 % 2 * 2 + i % 2;
+            int y = i / 8 * 2 + i % 4 / 2;
+            if (i % 4 == 0) {
+                picture.block(true);
+            }
+            picture.leaf(x == leafX && y == leafY ? mode : 1, true, dots(4, i));
+        }
+        return Pictures.decoded(CHECK, "small dots", PARAMETERS, picture, 16);
+    }
+
+    /** A picture of a split block and three large leaves, all with dots, mode 1 but for one block. */
+    private static Subject largeDots(int block, int mode) {
+        PictureWriter picture = new PictureWriter(false, true).block(true);
+        for (int i = 0; i < 4; i++) {
+            picture.leaf(1, true, dots(4, i));
+        }
+        for (int i = 1; i < 4; i++) {
+            picture.block(false).leaf(i == block ? mode : 1, dots(8, i));
+        }
+        return Pictures.decoded(CHECK, "large dots", Bits.head(16, 0, 1, 0, 0), picture, 7);
+    }
+
+    /** The last leaf of the last block, or the last block as one leaf: all that lies round it in the picture is there. */
+    private static void amongOthers(int mode, int side) {
+        Subject picture = side == 4 ? smallDots(3, 3, mode) : largeDots(3, mode);
+        int corner = 16 - side;
+        int[] left = new int[2 * side];
+        int[] above = new int[2 * side];
+        for (int k = 0; k < 2 * side; k++) {
+            left[k] = picture.plain(corner - 1, Math.min(15, corner + k));
+            above[k] = picture.plain(Math.min(15, corner + k), corner - 1);
+        }
+        int middle = picture.plain(corner - 1, corner - 1);
+        CHECK.due("the corner differs", middle != left[0] && middle != above[0], true);
+        boolean smooth = side == 8 && (mode == 0 || mode == 5 || mode == 7);
+        int[] smoothLeft = left.clone();
+        int[] smoothAbove = above.clone();
+        for (int k = 0; k < 2 * side - 1 && smooth; k++) {
+            smoothLeft[k] = (k == 0 ? middle : left[k - 1]) + 2 * left[k] + left[k + 1] + 2 >> 2;
+            smoothAbove[k] = (k == 0 ? middle : above[k - 1]) + 2 * above[k] + above[k + 1] + 2 >> 2;
+        }
+        int smoothCorner = smooth ? left[0] + 2 * middle + above[0] + 2 >> 2 : middle;
+        predictedAre("among others, mode " + mode, picture, corner, corner, side,
+            (x, y) -> inMode(mode, side, smoothLeft, smoothCorner, smoothAbove, x, y));
+    }
+
+    private static int inMode(int mode, int n, int[] left, int corner, int[] above, int x, int y) {
+        switch (mode) {
+            case 0:
+                return ((n - 1 - x) * left[y] + (x + 1) * above[n] + (n - 1 - y) * above[x] + (y + 1) * left[n] + n) / (2 * n);
+            case 1:
+                int sum = n;
+                for (int k = 0; k < n; k++) {
+                    sum += left[k] + above[k];
+                }
+                return sum / (2 * n);
+            case 2:
+                return left[y];
+            case 3:
+                return above[x];
+            case 4:
+                int down = 13 * (y + 1);
+                return between(above[x + down / 32], above[x + down / 32 + 1], down % 32);
+            case 5:
+                return above[x + y + 1];
+            case 6:
+                int across = 26 * (x + 1);
+                return between(left[y + across / 32], left[y + across / 32 + 1], across % 32);
+            default:
+                return x > y ? above[x - y - 1] : x < y ? left[y - x - 1] : corner;
+        }
+    }
+
+    @Says("mode 0: ((N - 1 - x) * LEFT(y) + (x + 1) * ABOVE(N) + (N - 1 - y) * ABOVE(x) + (y + 1) * LEFT(N) + N) / (2N);")
+    static void mode0() {
+        inAllPlaces(0);
+    }
+
+    @Says("1: (the sum of LEFT(0) .. LEFT(N - 1) and ABOVE(0) .. ABOVE(N - 1), + N) / (2N);")
+    static void mode1() {
+        inAllPlaces(1);
+    }
+
+    @Says("2: LEFT(y);")
+    static void mode2() {
+        inAllPlaces(2);
+    }
+
+    @Says("3: ABOVE(x);")
+    static void mode3() {
+        inAllPlaces(3);
+    }
+
+    @Says("4: with a = 13 * (y + 1), i = a >> 5, f = a & 31: ((32 - f) * ABOVE(x + i) + f * ABOVE(x + i + 1) + 16) >> 5;")
+    static void mode4() {
+        inAllPlaces(4);
+    }
+
+    @Says("5: ABOVE(x + y + 1);")
+    static void mode5() {
+        inAllPlaces(5);
+    }
+
+    @Says("6: with a = 26 * (x + 1), i = a >> 5, f = a & 31: ((32 - f) * LEFT(y + i) + f * LEFT(y + i + 1) + 16) >> 5;")
+    static void mode6() {
+        inAllPlaces(6);
+    }
+
+    @Says("7: ABOVE(x - y - 1) if x > y, LEFT(y - x - 1) if x < y, the CORNER if they are equal.")
+    static void mode7() {
+        inAllPlaces(7);
+    }
+
+    @Says({"PREDICTION. The REFERENCES of a leaf are LEFT(k), the sample at (X - 1, Y + k), and ABOVE(k), the sample at (X + k, Y - 1), k from 0 to 2N - 1, and the CORNER, the sample at (X - 1, Y - 1).",
+        "Then at (x, y) of the leaf, x and y from 0 to N - 1:"})
+    static void theFirstAndTheLastReferences() {
+        // ABOVE(2N - 1) is the last sample that mode 5 takes, LEFT(2N - 1) the last that mode 6 takes in a small leaf.
+        Subject x = smallDots(1, 2, 5);
+        CHECK.due("ABOVE(7)", x.predicted(7, 11), x.plain(11, 7));
+        CHECK.due("ABOVE(1)", x.predicted(4, 8), x.plain(5, 7));
+        x = smallDots(2, 2, 6);
+        CHECK.due("LEFT(6) and LEFT(7)", x.predicted(11, 11), between(x.plain(7, 14), x.plain(7, 15), 8));
+        CHECK.due("LEFT(7) differs", x.plain(7, 14) != x.plain(7, 15), true);
+        x = smallDots(2, 2, 7);
+        CHECK.due("CORNER", x.predicted(8, 8), x.plain(7, 7));
+        CHECK.due("ABOVE(0)", x.predicted(9, 8), x.plain(8, 7));
+        CHECK.due("LEFT(0)", x.predicted(8, 9), x.plain(7, 8));
+        x = largeDots(2, 5);
+        CHECK.due("ABOVE(15)", x.predicted(7, 15), x.plain(15, 7));
+    }
+
+    @Says("One is there if it lies in the picture and its leaf came before.")
+    static void whatLiesAboveToTheRight() {
+        for (int i = 1; i < 16; i++) {
+            int leafX = i % 4;
+            int leafY = i / 4;
+            int left = 4 * leafX;
+            int top = 4 * leafY;
+            Subject x = smallDots(leafX, leafY, 5);
+            // Mode 5 takes ABOVE(7) at (3, 3); if it is not there, it is the one before it.
+            int due = leafY == 0 ? x.plain(left - 1, 0)
+                : ABOVE_RIGHT[leafY].charAt(leafX) == 'y' ? x.plain(left + 7, top - 1) : x.plain(left + 3, top - 1);
+            CHECK.due("ABOVE(7) of leaf " + leafX + ", " + leafY, x.predicted(left + 3, top + 3), due);
+        }
+        Subject x = largeDots(1, 5);
+        CHECK.due("nothing above block 1", x.predicted(15, 7), x.plain(7, 0));
+        x = largeDots(2, 5);
+        CHECK.due("above block 2", x.predicted(7, 15), x.plain(15, 7));
+        x = largeDots(3, 5);
+        CHECK.due("above block 3", x.predicted(15, 15), x.plain(15, 7));
+    }
+
+    @Says("One is there if it lies in the picture and its leaf came before.")
+    static void whatLiesToTheLeftBelow() {
+        for (int i = 1; i < 16; i++) {
+            int leafX = i % 4;
+            int leafY = i / 4;
+            int left = 4 * leafX;
+            int top = 4 * leafY;
+            Subject x = smallDots(leafX, leafY, 6);
+            // Mode 6 takes LEFT(6) and LEFT(7) at (3, 3); if they are not there, they are what LEFT(3) is.
+            int due = leafX == 0 ? x.plain(0, top - 1) : LEFT_BELOW[leafY].charAt(leafX) == 'y'
+                ? between(x.plain(left - 1, top + 6), x.plain(left - 1, top + 7), 8) : x.plain(left - 1, top + 3);
+            CHECK.due("LEFT(7) of leaf " + leafX + ", " + leafY, x.predicted(left + 3, top + 3), due);
+        }
+        Subject x = largeDots(1, 6);
+        CHECK.due("left of block 1", x.predicted(15, 7), x.plain(7, 7));
+        x = largeDots(2, 6);
+        CHECK.due("nothing left of block 2", x.predicted(7, 15), x.plain(0, 7));
+        x = largeDots(3, 6);
+        CHECK.due("left of block 3", x.predicted(15, 15), x.plain(7, 15));
+    }
+
+    @Says("if none is there, all are 128;")
+    static void theFirstLeafIsPredicted128() {
+        predictedAre("first leaf", smallDots(1, 0, 1), 0, 0, 4, (x, y) -> 128);
+        predictedAre("first leaf of the next picture", decodedTwice(), 0, 0, 4, (x, y) -> 128);
+    }
+
+    /** A picture behind another whose samples are not 128: they are no references any more. */
+    private static Subject decodedTwice() {
+        PictureWriter picture = Pictures.greyBlock(new PictureWriter(false, true));
+        picture.block(false).leaf(1, null).block(false).leaf(1, null).block(false).leaf(1, null);
+        PictureWriter before = new PictureWriter(false, true).block(true);
+        before.leaf(1, true, dots(4, 1)).leaf(2, null).leaf(3, null).leaf(4, null);
+        before.block(false).leaf(2, null).block(false).leaf(3, null).block(false).leaf(7, null);
+        Subject x = Pictures.bytes(PARAMETERS, before).unit(2, picture.toBytes()).fed();
+        CHECK.due("decode()", x.decode(), 7);
+        for (int i = 0; i < 256; i++) {
+            CHECK.due("predicted", x.predicted(i % 16, i / 16), 128);
+        }
+        return x;
+    }
+
+    @Says({"They are gone through from LEFT(2N - 1) to LEFT(0), the CORNER, ABOVE(0) to ABOVE(2N - 1):",
+        "otherwise the first one, if it is not there, becomes what the first one is that is there, and then each that is not there what the one before it is."})
+    static void gapsAreFilledFromTheOneBefore() {
+        // At the upper rim the CORNER and ABOVE are LEFT(0); at the left rim LEFT and the CORNER are ABOVE(0).
+        for (int leaf = 1; leaf < 4; leaf++) {
+            Subject upper = smallDots(leaf, 0, 7);
+            Subject rim = smallDots(0, leaf, 7);
+            int at = 4 * leaf;
+            for (int k = 0; k < 4; k++) {
+                CHECK.due("CORNER at the upper rim", upper.predicted(at + k, k), upper.plain(at - 1, 0));
+                CHECK.due("CORNER at the left rim", rim.predicted(k, at + k), rim.plain(0, at - 1));
+            }
+            CHECK.due("ABOVE(2) at the upper rim", upper.predicted(at + 3, 0), upper.plain(at - 1, 0));
+            CHECK.due("LEFT(2) at the left rim", rim.predicted(0, at + 3), rim.plain(0, at - 1));
+            CHECK.due("LEFT(2) at the upper rim", upper.predicted(at, 3), upper.plain(at - 1, 2));
+            CHECK.due("ABOVE(2) at the left rim", rim.predicted(3, at), rim.plain(2, at - 1));
+        }
+        // The last leaf of the first block: what lies above it to the right is not there, and neither what lies to the left below.
         PictureWriter picture = new PictureWriter(false, true).block(true).leaf(1, Pictures.none(4));
-        picture.leaf(3, true, lowestRow(10, 1)).leaf(1, null).leaf(5, null);
-        picture.block(false).leaf(1, true, null).block(false).leaf(1, null).block(false).leaf(1, null);
-        IntraPicture decoded = Pictures.decoded(CHECK, "not there", PARAMETERS, picture, 7);
-        predictedAre("first leaf", decoded, 0, 0, 4, (x, y) -> 128);
+        picture.leaf(3, true, lowestRow(10, 1)).leaf(1, true, rightColumn(-5, -1)).leaf(5, null);
+        picture.block(false).leaf(1, null).block(false).leaf(1, null).block(false).leaf(1, null);
+        Subject decoded = Pictures.decoded(CHECK, "not there", PARAMETERS, picture, 7);
         predictedAre("above to the right", decoded, 4, 4, 4, (x, y) -> 138 + Math.min(3, x + y + 1));
         // The second leaf of a block: what lies to the left below is not there yet.
         picture = new PictureWriter(false, true).block(true).leaf(1, true, rightColumn(-5, -1)).leaf(6, null);
@@ -177,11 +404,88 @@ public final class PredictionTest {
         });
     }
 
-    private static void referencesAreTakenBeforeEdgesAndOffsets() {
+    /** Two blocks of 128 but for one sample of row 7; then a large leaf below them. */
+    private static Subject belowASpike(int spikeX, int spike, int mode) {
+        PictureWriter picture = new PictureWriter(false, true);
+        picture.block(true).leaf(1, Pictures.none(4)).leaf(1, null);
+        picture.leaf(1, true, spikeIn(0, spikeX, spike)).leaf(3, true, spikeIn(4, spikeX, spike));
+        picture.block(true).leaf(3, null).leaf(3, null);
+        picture.leaf(3, true, spikeIn(8, spikeX, spike)).leaf(3, true, spikeIn(12, spikeX, spike));
+        picture.block(false).leaf(mode, null).block(false).leaf(1, null);
+        Subject x = Pictures.decoded(CHECK, "spike", PARAMETERS, picture, 10);
+        for (int k = 0; k < 16; k++) {
+            CHECK.due("plain(" + k + ", 7)", x.plain(k, 7), 128 + (k == spikeX ? spike : 0));
+        }
+        return x;
+    }
+
+    private static int[][] spikeIn(int left, int spikeX, int spike) {
+        boolean here = spikeX >= left && spikeX < left + 4;
+        return here ? Pictures.one(4, spikeX - left, 3, spike) : Pictures.none(4);
+    }
+
+    @Says("each of them but the first and the last then becomes (the one before + 2 * itself + the one behind + 2) >> 2, all from what they were.")
+    static void referencesAreSmoothed() {
+        for (int spike : new int[] {-4, -3, -2, -1, 1, 2, 3, 4, 100}) {
+            // Mode 5 takes ABOVE(1) to ABOVE(15): the spike at 9, half of it there and a quarter beside it.
+            Subject x = belowASpike(9, spike, 5);
+            int half = 128 + (2 * spike + 2 >> 2);
+            int quarter = 128 + (spike + 2 >> 2);
+            predictedAre("spike " + spike, x, 0, 8, 8, (a, b) -> {
+                int k = a + b + 1;
+                return k == 9 ? half : k == 8 || k == 10 ? quarter : 128;
+            });
+            // The last one stays as it is; the one before it does not.
+            x = belowASpike(15, spike, 5);
+            predictedAre("spike at the end, " + spike, x, 0, 8, 8, (a, b) -> {
+                int k = a + b + 1;
+                return k == 15 ? 128 + spike : k == 14 ? quarter : 128;
+            });
+        }
+    }
+
+    @Says("For N = 8 and the modes 0, 5 and 7")
+    static void onlySomeModesAreSmoothed() {
+        // A spike of 64 at ABOVE(2): what comes of it below, in the modes that take it as it is and in those that do not.
+        predictedAre("mode 3", belowASpike(2, 64, 3), 0, 8, 8, (x, y) -> x == 2 ? 192 : 128);
+        predictedAre("mode 1", belowASpike(2, 64, 1), 0, 8, 8, (x, y) -> 132);
+        predictedAre("mode 5", belowASpike(2, 64, 5), 0, 8, 8,
+            (x, y) -> x + y == 1 ? 160 : x + y == 0 || x + y == 2 ? 144 : 128);
+        predictedAre("mode 7", belowASpike(2, 64, 7), 0, 8, 8,
+            (x, y) -> x - y == 3 ? 160 : x - y == 2 || x - y == 4 ? 144 : 128);
+        predictedAre("mode 0", belowASpike(2, 64, 0), 0, 8, 8,
+            (x, y) -> 128 + ((7 - y) * (x == 2 ? 32 : x == 1 || x == 3 ? 16 : 0) + 8) / 16);
+        predictedAre("mode 4", belowASpike(2, 64, 4), 0, 8, 8, (x, y) -> {
+            int a = 13 * (y + 1);
+            int k = x + a / 32;
+            return between(k == 2 ? 192 : 128, k == 1 ? 192 : 128, a % 32);
+        });
+        // A small leaf takes them as they are in each mode.
+        PictureWriter picture = new PictureWriter(false, true).block(true);
+        picture.leaf(1, true, Pictures.one(4, 2, 3, 64)).leaf(1, null).leaf(5, null).leaf(1, null);
+        picture.block(false).leaf(1, null).block(false).leaf(1, null).block(false).leaf(1, null);
+        Subject small = Pictures.decoded(CHECK, "small", PARAMETERS, picture, 7);
+        predictedAre("small, mode 5", small, 0, 4, 4, (x, y) -> x + y == 1 ? 192 : small.plain(x + y + 1, 3));
+        CHECK.due("the spike", small.plain(2, 3), 192);
+        CHECK.due("beside it", small.plain(1, 3), 128);
+    }
+
+    @Says("(A leaf's samples come before the next leaf.)")
+    static void aLeafIsPredictedFromTheSamplesOfTheOneBefore() {
+        PictureWriter picture = new PictureWriter(false, true).block(true);
+        picture.leaf(1, true, rightColumn(30, 5)).leaf(2, true, rightColumn(-50, 1)).leaf(1, null).leaf(1, null);
+        picture.block(false).leaf(2, null).block(false).leaf(1, null).block(false).leaf(1, null);
+        Subject decoded = Pictures.decoded(CHECK, "one behind the other", PARAMETERS, picture, 7);
+        predictedAre("second leaf", decoded, 4, 0, 4, (x, y) -> 158 + 5 * y);
+        predictedAre("third leaf", decoded, 8, 0, 4, (x, y) -> 108 + 6 * y);
+    }
+
+    @Says("`int predicted(int x, int y)`: What was predicted at (x, y); -1 likewise.")
+    static void referencesAreTakenBeforeEdgesAndOffsets() {
         PictureWriter picture = leftOfAFallingColumn().block(false).leaf(2, null);
         picture.block(false).leaf(1, null).block(false).leaf(1, null);
         Bits parameters = Bits.head(4, 0, 1, 1, 3).offsets(7, 7, 7, 7).number(4, 3);
-        IntraPicture decoded = Pictures.decoded(CHECK, "finished", parameters, picture, 7);
+        Subject decoded = Pictures.decoded(CHECK, "finished", parameters, picture, 7);
         columnIsFalling(decoded);
         predictedAre("finished", decoded, 8, 0, 8, (x, y) -> 200 - 8 * y);
         CHECK.due("sample(7, 0)", decoded.sample(7, 0) != 200, true);
