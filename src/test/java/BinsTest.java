@@ -30,28 +30,13 @@ public final class BinsTest {
         return x;
     }
 
-    /** The picture comes out of its lowest bits and out of its highest ones, with all its chances and counts. */
-    private static Subject fromLowestAndHighest(String name, PictureWriter picture, int leaves) {
-        takenAsWritten(name + ", highest", decoded(name + ", highest", leaves, picture.toHighestBytes()), picture);
-        Subject x = decoded(name + ", lowest", leaves, picture.toBytes());
-        takenAsWritten(name + ", lowest", x, picture);
-        return x;
-    }
-
-    private static void takenAsWritten(String name, Subject x, PictureWriter picture) {
-        for (int k = 0; k < 3; k++) {
-            CHECK.due(name + ": took(" + k + ")", x.took(k), picture.took(k));
-        }
-        for (int k = 0; k < 14; k++) {
-            CHECK.due(name + ": chance(" + k + ")", x.chance(k), picture.chance(k));
-        }
-    }
-
-    private static PictureWriter greyBlocks(PictureWriter picture, int blocks) {
-        for (int i = 0; i < blocks; i++) {
-            picture.block(false).leaf(1, null);
-        }
-        return picture;
+    /** The picture as it comes out of its lowest bits and out of its highest ones, with all its chances and counts. */
+    private static Subject[] fromLowestAndHighest(String name, PictureWriter picture, int leaves) {
+        Subject lowest = decoded(name + ", lowest", leaves, picture.toBytes());
+        Pictures.takenAsWritten(CHECK, name + ", lowest", lowest, picture);
+        Subject highest = decoded(name + ", highest", leaves, picture.toHighestBytes());
+        Pictures.takenAsWritten(CHECK, name + ", highest", highest, picture);
+        return new Subject[] {lowest, highest};
     }
 
     private static PictureWriter splitBlock(PictureWriter picture, int... modes) {
@@ -67,12 +52,10 @@ public final class BinsTest {
             .leaf(fourth, null);
     }
 
-    private static int[][] all(int level) {
-        int[][] levels = new int[4][4];
-        for (int[] row : levels) {
-            java.util.Arrays.fill(row, level);
-        }
-        return levels;
+    /** 48 levels of size 2: they bring the chance of context 12 above 992. */
+    private static PictureWriter threeLeavesOfTwos() {
+        int[][] twos = Pictures.all(4, 2);
+        return new PictureWriter(false, false).block(true).leaf(1, twos).leaf(1, twos).leaf(1, twos);
     }
 
     /** With bits that are all 0, VALUE stays 0: each bin is the likely one, which is 1, and each free bit is 0. */
@@ -184,11 +167,12 @@ public final class BinsTest {
         for (int last = 1; last <= 2; last++) {
             PictureWriter picture = new PictureWriter(false, false).block(true).leaf(1, Pictures.none(4));
             picture.leaf(1, sizesUpTo(last)).leaf(1, null).leaf(1, null);
-            greyBlocks(picture, 3);
+            Pictures.greyLeaves(picture, 3);
             // 480, 513, 481, 514, 545, 511: then 0 or 1.
             CHECK.due("chance of context 12", picture.chance(12), last == 1 ? 480 : 543);
-            Subject x = fromLowestAndHighest("size " + last, picture, 7);
-            CHECK.due("the last size", x.level(4, 3), last);
+            for (Subject x : fromLowestAndHighest("size " + last, picture, 7)) {
+                CHECK.due("the last size", x.level(4, 3), last);
+            }
         }
         // Each context's first bin has the chance 512: with VALUE 0 it is 1.
         Subject x = decoded("no bits", 16);
@@ -206,19 +190,23 @@ public final class BinsTest {
                 picture.leaf(1, block + i == 6 ? Pictures.one(4, 3, 3, 1) : Pictures.none(4));
             }
         }
-        Subject x = fromLowestAndHighest("an unlikely 1", picture, 16);
-        CHECK.due("level(15, 15)", x.level(15, 15), 1);
+        for (Subject x : fromLowestAndHighest("an unlikely 1", picture, 16)) {
+            CHECK.due("level(15, 15)", x.level(15, 15), 1);
+        }
         // 48 levels of size 2 bring the chance of context 12 above 992, where L is 4 too.
-        picture = new PictureWriter(false, false).block(true).leaf(1, all(2)).leaf(1, all(2)).leaf(1, all(2));
+        picture = threeLeavesOfTwos();
         picture.leaf(1, Pictures.one(4, 0, 0, -1));
-        greyBlocks(picture, 3);
-        x = fromLowestAndHighest("an unlikely 0", picture, 7);
-        CHECK.due("level(4, 4)", x.level(4, 4), -1);
+        Pictures.greyLeaves(picture, 3);
+        for (Subject x : fromLowestAndHighest("an unlikely 0", picture, 7)) {
+            CHECK.due("level(4, 4)", x.level(4, 4), -1);
+        }
     }
 
-    @Says("If VALUE is below RANGE, the bin is LIKELY; otherwise VALUE falls by RANGE, RANGE becomes L, and the bin is 1 - LIKELY.")
+    @Says("If VALUE is below RANGE, the bin is LIKELY; otherwise VALUE falls by RANGE, RANGE becomes L, and the bin "
+        + "is 1 - LIKELY.")
     static void valuesAtTheEndsOfTheRange() {
-        // In the lowest bits VALUE is RANGE at the latest unlikely bin; in the highest ones it is RANGE - 1 at the latest likely one.
+        // In the lowest bits VALUE is RANGE at the latest unlikely bin.
+        // In the highest ones it is RANGE - 1 at the latest likely one.
         for (int split = 0; split < 8; split++) {
             for (int coded = 0; coded < 4; coded++) {
                 PictureWriter picture = firstBlock(1, 2, 3);
@@ -254,10 +242,10 @@ public final class BinsTest {
                 picture.leaf(1, Pictures.none(4));
             }
         }
-        x = fromLowestAndHighest("all 0", picture, 16);
+        x = fromLowestAndHighest("all 0", picture, 16)[0];
         CHECK.due("NOTZERO was 0 for 256 times: chance(9)", x.chance(9), 15);
         picture = firstBlock(1, 1, 1).block(false).leaf(1, null).block(false).leaf(1, null).block(false).leaf(1, null);
-        x = fromLowestAndHighest("large leaves", picture, 7);
+        x = fromLowestAndHighest("large leaves", picture, 7)[0];
         CHECK.due("SPLIT was 1, then 0: chance(0)", x.chance(0), 543 - 33);
         CHECK.due("SPLIT was 0 twice: chance(1)", x.chance(1), 450);
         CHECK.due("CODED was 0 for 3 times: chance(5)", x.chance(5), 422);
@@ -266,8 +254,8 @@ public final class BinsTest {
     @Says("As long as RANGE is below 256, it is doubled, and VALUE becomes 2 * VALUE + the next bit.")
     static void aRangeOf255Or256Or257() {
         PictureWriter[] pictures = {
-            greyBlocks(splitBlock(greyBlocks(firstBlock(2, 1, 1), 1), 1, 1, 1, 1), 1),
-            greyBlocks(splitBlock(firstBlock(1, 2, 1).block(false).leaf(2, null), 2, 2, 1, 2), 1),
+            Pictures.greyLeaves(splitBlock(Pictures.greyLeaves(firstBlock(2, 1, 1), 1), 1, 1, 1, 1), 1),
+            Pictures.greyLeaves(splitBlock(firstBlock(1, 2, 1).block(false).leaf(2, null), 2, 2, 1, 2), 1),
             splitBlock(firstBlock(1, 2, 1).block(false).leaf(2, null).block(false).leaf(2, null), 2, 1, 1, 2)};
         int[] leaves = {10, 10, 10};
         for (int i = 0; i < 3; i++) {
@@ -279,34 +267,41 @@ public final class BinsTest {
     @Says("As long as RANGE is below 256, it is doubled, and VALUE becomes 2 * VALUE + the next bit.")
     static void aRangeOf4IsDoubledSixTimes() {
         // The last bin is an unlikely TWO, behind which RANGE is 4; one free bit for the sign comes then.
-        PictureWriter picture = new PictureWriter(false, false).block(true).leaf(1, all(2)).leaf(1, all(2)).leaf(1, all(2));
+        PictureWriter picture = threeLeavesOfTwos();
         picture.leaf(1, null);
-        greyBlocks(picture, 2).block(true).leaf(1, null).leaf(1, null).leaf(1, null);
+        Pictures.greyLeaves(picture, 2).block(true).leaf(1, null).leaf(1, null).leaf(1, null);
         picture.leaf(1, Pictures.one(4, 3, 3, 1));
         CHECK.due("RANGE behind the last bin", picture.rangeBeforeDoubling(), 4);
-        Subject x = fromLowestAndHighest("RANGE 4", picture, 10);
-        CHECK.due("level(15, 15)", x.level(15, 15), 1);
+        for (Subject x : fromLowestAndHighest("RANGE 4", picture, 10)) {
+            CHECK.due("level(15, 15)", x.level(15, 15), 1);
+        }
     }
 
-    @Says("A FREE bit: VALUE becomes 2 * VALUE + the next bit; if VALUE is then RANGE or more, it falls by RANGE and the free bit is 1; otherwise it is 0.")
+    @Says("A FREE bit: VALUE becomes 2 * VALUE + the next bit; if VALUE is then RANGE or more, it falls by RANGE "
+        + "and the free bit is 1; otherwise it is 0.")
     static void freeBitsAtTheEndsOfTheRange() {
-        // The sign is the picture's last bit: of the lowest bits with 1 VALUE is RANGE, of the highest with 0 it is RANGE - 1.
+        // The sign is the picture's last bit.
+        // If it is 1, VALUE is RANGE in the lowest bits; if it is 0, VALUE is RANGE - 1 in the highest ones.
         for (int level : new int[] {-1, 1}) {
-            PictureWriter picture = greyBlocks(firstBlock(1, 1, 1), 2).block(false).leaf(1, Pictures.one(8, 7, 7, level));
-            Subject x = fromLowestAndHighest("sign", picture, 7);
-            CHECK.due("level(15, 15)", x.level(15, 15), level);
+            PictureWriter picture = Pictures.greyLeaves(firstBlock(1, 1, 1), 2);
+            picture.block(false).leaf(1, Pictures.one(8, 7, 7, level));
+            for (Subject x : fromLowestAndHighest("sign", picture, 7)) {
+                CHECK.due("level(15, 15)", x.level(15, 15), level);
+            }
         }
         for (int mode = 0; mode < 8; mode++) {
-            PictureWriter picture = greyBlocks(firstBlock(1, 1, 1), 2).block(false).leaf(mode, null);
-            CHECK.due("mode " + mode, fromLowestAndHighest("mode " + mode, picture, 7).mode(15, 15), mode);
+            PictureWriter picture = Pictures.greyLeaves(firstBlock(1, 1, 1), 2).block(false).leaf(mode, null);
+            for (Subject x : fromLowestAndHighest("mode " + mode, picture, 7)) {
+                CHECK.due("mode(15, 15)", x.mode(15, 15), mode);
+            }
         }
     }
 
     @Says("`int chance(int k)`: The chance of context k when the picture was decoded;")
     static void chancesOfAShortPicture() {
-        PictureWriter picture = greyBlocks(firstBlock(1, 1, 1).block(false).leaf(5, null), 1);
+        PictureWriter picture = Pictures.greyLeaves(firstBlock(1, 1, 1).block(false).leaf(5, null), 1);
         picture.block(false).leaf(2, Pictures.one(8, 0, 0, -1));
-        Subject x = fromLowestAndHighest("short", picture, 7);
+        Subject x = fromLowestAndHighest("short", picture, 7)[0];
         CHECK.due("SPLIT 1, 0: chance(0)", x.chance(0), 543 - (543 >> 4));
         CHECK.due("SPLIT 0, 0: chance(1)", x.chance(1), 480 - 30);
         CHECK.due("chance(2)", x.chance(2), 512);
@@ -324,7 +319,7 @@ public final class BinsTest {
 
     @Says("`int took(int k)`: What the picture took: k = 0 bins, 1 free bits, 2 bits read (those beyond the end too).")
     static void countsOfAShortPicture() {
-        PictureWriter picture = greyBlocks(firstBlock(1, 1, 1).block(false).leaf(5, null), 1);
+        PictureWriter picture = Pictures.greyLeaves(firstBlock(1, 1, 1).block(false).leaf(5, null), 1);
         picture.block(false).leaf(2, Pictures.one(8, 0, 0, -1));
         Subject x = decoded("short", 7, picture.toBytes());
         // Splits; SAME and CODED of seven leaves; 16 of the first leaf; four FILLED, 16 NOTZERO and TWO of the last.
@@ -338,7 +333,10 @@ public final class BinsTest {
     static void bitsBeyondTheEndAreCounted() {
         PictureWriter picture = new PictureWriter(false, false);
         for (int block = 0; block < 4; block++) {
-            picture.block(true).leaf(1, all(3)).leaf(1, all(3)).leaf(1, all(3)).leaf(1, all(3));
+            picture.block(true);
+            for (int i = 0; i < 4; i++) {
+                picture.leaf(1, Pictures.all(4, 3));
+            }
         }
         CHECK.due("all its bits are 0", picture.toBytes().length, 0);
         Subject x = decoded("no rest", 16);
@@ -352,7 +350,7 @@ public final class BinsTest {
         }
         CHECK.due("one byte", picture.toBytes().length, 1);
         CHECK.due("it is 229", picture.toBytes()[0], 229);
-        takenAsWritten("one byte", decoded("one byte", 16, 229), picture);
+        Pictures.takenAsWritten(CHECK, "one byte", decoded("one byte", 16, 229), picture);
         CHECK.due("more than 8 bits", picture.took(2) > 8, true);
     }
 }

@@ -251,8 +251,10 @@ public final class DecodeTest {
 
     @Says("if the count is 2 or more and the byte is 3, it is left out and the count is 0 again;")
     static void threesAreLeftOutOfTheBits() {
-        Subject with = decoded("with a 3", new Bytes().unit(1, PLAINEST).raw(0, 0, 1, 2, 0xE5, 0, 0, 3, 1, 0x99), 16);
-        Subject due = decoded("by hand", new Bytes().unit(1, PLAINEST).unit(2, 0xE5, 0, 0, 1, 0x99), 16);
-        samePicture("with a 3", with, due);
+        Subject with = new Bytes().unit(1, PLAINEST).raw(0, 0, 1, 2, 0x40, 0, 0, 3, 0x99, 0x77).fed();
+        Subject without = new Bytes().unit(1, PLAINEST).raw(0, 0, 1, 2, 0x40, 0, 0, 0x99, 0x77).fed();
+        CHECK.due("decode()", with.decode(), without.decode());
+        CHECK.due("the bits behind it are read", with.took(2) > 40, true);
+        samePicture("with a 3", with, without);
     }
 }

@@ -38,8 +38,24 @@ public final class FaceTest {
             staticFieldsAreFinal(inside);
         }
         staticFieldsAreFinal(face);
-        CHECK.due("classes", face.getDeclaredClasses().length <= 11, true);
+        privateMethodsHaveOtherNames(face);
         CHECK.end();
+    }
+
+    private static void privateMethodsHaveOtherNames(Class<?> face) {
+        Set<String> names = new TreeSet<>();
+        for (Method method : face.getMethods()) {
+            names.add(method.getName());
+        }
+        for (Method method : face.getDeclaredMethods()) {
+            boolean hidden = Modifier.isPrivate(method.getModifiers());
+            CHECK.due("a private " + method.getName(), hidden && names.contains(method.getName()), false);
+        }
+        for (Class<?> inside : face.getDeclaredClasses()) {
+            for (Method method : inside.getDeclaredMethods()) {
+                CHECK.due(method.getName() + " inside", names.contains(method.getName()), false);
+            }
+        }
     }
 
     private static String signature(Method method) {

@@ -56,21 +56,13 @@ public final class FinishTest {
         rowsAre(name, lying(EDGES_QP_22, step), step, p0, q0);
     }
 
-    private static int[][] all(int level) {
-        int[][] levels = new int[4][4];
-        for (int[] row : levels) {
-            java.util.Arrays.fill(row, level);
-        }
-        return levels;
-    }
-
     /** All samples are the base but for p1, p0, q0, q1 in row 2. With QP 4 a skipped residual is its level. */
     private static Subject inARow(Bits parameters, int base, int p1, int p0, int q0, int q1) {
         int[][] left = Pictures.one(4, 2, 2, p1 - base);
         left[2][3] = p0 - base;
         int[][] right = Pictures.one(4, 0, 2, q0 - base);
         right[2][1] = q1 - base;
-        PictureWriter picture = new PictureWriter(false, true).block(true).leaf(1, true, all(base - 128));
+        PictureWriter picture = new PictureWriter(false, true).block(true).leaf(1, true, Pictures.all(4, base - 128));
         picture.leaf(2, true, left).leaf(3, null).leaf(2, null);
         picture.block(true).leaf(3, true, right).leaf(3, null).leaf(3, null).leaf(3, null);
         picture.block(false).leaf(3, null).block(false).leaf(3, null);
@@ -89,8 +81,8 @@ public final class FinishTest {
         upper[3][2] = p0 - base;
         int[][] lower = Pictures.one(4, 2, 0, q0 - base);
         lower[1][2] = q1 - base;
-        PictureWriter picture = new PictureWriter(false, true).block(true).leaf(1, true, all(base - 128)).leaf(2, null);
-        picture.leaf(3, true, upper).leaf(3, null).block(false).leaf(3, null);
+        PictureWriter picture = new PictureWriter(false, true).block(true).leaf(1, true, Pictures.all(4, base - 128));
+        picture.leaf(2, null).leaf(3, true, upper).leaf(3, null).block(false).leaf(3, null);
         picture.block(true).leaf(2, true, lower).leaf(3, null).leaf(2, null).leaf(3, null);
         picture.block(false).leaf(3, null);
         Subject x = Pictures.decoded(CHECK, "in a column", parameters, picture, 10);
@@ -131,7 +123,8 @@ public final class FinishTest {
         }
     }
 
-    @Says("first for y = 0 .. 15 the samples p1, p0, q0, q1 at x = 6, 7, 8, 9 of row y, then for x = 0 .. 15 those at y = 6, 7, 8, 9 of column x:")
+    @Says("first for y = 0 .. 15 the samples p1, p0, q0, q1 at x = 6, 7, 8, 9 of row y, then for x = 0 .. 15 those "
+        + "at y = 6, 7, 8, 9 of column x:")
     static void rowsComeBeforeColumns() {
         bothWays("from end to end", 20, 131, 145);
         // Only the last block differs: what the rows made of it is what the columns begin with.
@@ -154,7 +147,8 @@ public final class FinishTest {
 
     @Says("if |p1 - p0| + |q1 - q0| is below QP:")
     static void sidesThatAreTooUneven() {
-        // QP is 4: a sum of 3 is below it, a sum of 4 is not. D is 17 >> 4 or 20 >> 4, which is 1, or -1 >> 4 or -4 >> 4, which is -1.
+        // QP is 4: a sum of 3 is below it, a sum of 4 is not.
+        // D is 17 >> 4 or 20 >> 4, which is 1, or -1 >> 4 or -4 >> 4, which is -1.
         become(128, 131, 128, 128, 128, 129, 127);
         become(128, 132, 128, 128, 128, 128, 128);
         become(128, 125, 128, 128, 128, 127, 129);
@@ -184,11 +178,13 @@ public final class FinishTest {
 
     @Says({"with D = 9 * (q0 - p0) - 3 * (q1 - p1) + 8 >> 4", "(>> binds less than + and -, more than &, as in Java.)"})
     static void differencesAreRounded() {
-        // A step of 1 is 14 >> 4, a step of 2 is 20 >> 4; -1 is 2 >> 4, -2 is -4 >> 4.
+        // A step of 1 is 14 >> 4, of 2 is 20 >> 4, of 4 is 32 >> 4; -1 is 2 >> 4, -2 is -4 >> 4, -4 is -16 >> 4.
         bothWays("step 1", 1, 128, 129);
         bothWays("step 2", 2, 129, 129);
         bothWays("step -1", -1, 128, 127);
         bothWays("step -2", -2, 127, 127);
+        bothWays("step 4", 4, 130, 130);
+        bothWays("step -4", -4, 127, 125);
         // p1 or q1 alone: 3 * 2 + 8 is 14, 3 * 3 + 8 is 17; -3 * 2 + 8 is 2, -3 * 3 + 8 is -1.
         become(128, 130, 128, 128, 128, 128, 128);
         become(128, 131, 128, 128, 128, 129, 127);
@@ -287,7 +283,8 @@ public final class FinishTest {
             int b = x.plain(atX + across, atY + down);
             boolean both = a != -1 && b != -1;
             int balance = both ? balance(a, c, b) : 0;
-            CHECK.due("sample(" + atX + ", " + atY + ")", x.sample(atX, atY), Math.max(0, Math.min(255, c + offsets[2 + balance])));
+            int due = Math.max(0, Math.min(255, c + offsets[2 + balance]));
+            CHECK.due("sample(" + atX + ", " + atY + ")", x.sample(atX, atY), due);
             seen[2 + balance] += both ? 1 : 0;
             rims += !both && (a == -1 ? b : a) != c ? 1 : 0;
         }
@@ -316,7 +313,8 @@ public final class FinishTest {
                 for (int rim = 0; rim <= 15; rim += 15) {
                     int atX = offsetClass == 1 ? rim : k;
                     int atY = offsetClass == 1 ? k : rim;
-                    CHECK.due("CLASS " + offsetClass + ": sample(" + atX + ", " + atY + ")", x.sample(atX, atY), x.plain(atX, atY));
+                    String call = "CLASS " + offsetClass + ": sample(" + atX + ", " + atY + ")";
+                    CHECK.due(call, x.sample(atX, atY), x.plain(atX, atY));
                     atOtherRims += x.sample(atY, atX) != x.plain(atY, atX) ? 1 : 0;
                 }
             }
@@ -343,7 +341,8 @@ public final class FinishTest {
         CHECK.due("offset at " + atX + ", " + atY, x.sample(atX, atY) - x.plain(atX, atY), due);
     }
 
-    @Says("by how many of a and b are greater than c less how many are less: 2: plus OFFSET 0, 1: plus OFFSET 1, -1: plus OFFSET 2, -2: plus OFFSET 3.")
+    @Says("by how many of a and b are greater than c less how many are less: 2: plus OFFSET 0, 1: plus OFFSET 1, "
+        + "-1: plus OFFSET 2, -2: plus OFFSET 3.")
     static void offsetsOfDotsAndOfWhatLiesBesideThem() {
         Subject x = dotted(Bits.head(4, 0, 1, 0, 1).offsets(1, 2, -3, -4));
         int[][] across = {{1, 0, 2}, {4, 1, 2}, {5, 1, -4}, {6, 1, 2}, {5, 0, 0}, {6, 2, -3}, {7, 2, 1}, {8, 2, -3}, {3, 12, 0}};
@@ -394,19 +393,6 @@ public final class FinishTest {
         }
     }
 
-    @Says("Offsets and POSITION that are not there are 0.")
-    static void class0HasNoOffsets() {
-        // The parameters before had offsets.
-        PictureWriter picture = Pictures.greyBlock(new PictureWriter(false, false));
-        picture.block(false).leaf(1, Pictures.one(8, 0, 0, 10)).block(false).leaf(2, null).block(false).leaf(3, null);
-        int[] with = Bits.head(22, 0, 0, 0, 3).offsets(7, 7, 7, 7).number(4, 3).toBytes();
-        Subject x = new Bytes().unit(1, with).unit(1, Bits.head(22, 0, 0, 0, 0).toBytes()).unit(2, picture.toBytes()).fed();
-        CHECK.due("decode()", x.decode(), 7);
-        for (int i = 0; i < 256; i++) {
-            offsetIs(x, i % 16, i / 16, 0);
-        }
-    }
-
     @Says("Brought to 0 .. 255.")
     static void offsetsStayInTheirRange() {
         for (int level : new int[] {127, 126, 121, 120, 119, -128, -127, -122, -121, -120}) {
@@ -420,7 +406,8 @@ public final class FinishTest {
             CHECK.due("plain " + level, x.plain(1, 1), 128 + level);
             CHECK.due("CLASS 3: sample " + level, x.sample(1, 1), due);
             for (int offsetClass = 1; offsetClass <= 2; offsetClass++) {
-                x = Pictures.decoded(CHECK, "range", Bits.head(4, 0, 1, 0, offsetClass).offsets(offset, 0, 0, offset), picture, 7);
+                Bits ends = Bits.head(4, 0, 1, 0, offsetClass).offsets(offset, 0, 0, offset);
+                x = Pictures.decoded(CHECK, "range", ends, picture, 7);
                 CHECK.due("CLASS " + offsetClass + ": sample " + level, x.sample(1, 1), due);
             }
         }

@@ -1,5 +1,3 @@
-import java.util.Arrays;
-
 /** THE PICTURE and the promises 11, 12 and 13: the levels, modes and sides of the leaves. */
 public final class LeavesTest {
     private static final Check CHECK = new Check("LeavesTest");
@@ -27,13 +25,6 @@ public final class LeavesTest {
         return new PictureWriter(false, false);
     }
 
-    private static PictureWriter restIsGrey(PictureWriter picture, int blocks) {
-        for (int i = 0; i < blocks; i++) {
-            picture.block(false).leaf(1, null);
-        }
-        return picture;
-    }
-
     private static Subject decoded(String name, PictureWriter picture, int leaves) {
         return Pictures.decoded(CHECK, name, PARAMETERS, picture, leaves);
     }
@@ -44,15 +35,6 @@ public final class LeavesTest {
                 String call = name + ": level(" + (left + dx) + ", " + (top + dy) + ")";
                 CHECK.due(call, x.level(left + dx, top + dy), due[dy][dx]);
             }
-        }
-    }
-
-    private static void takenAsWritten(String name, Subject x, PictureWriter picture) {
-        for (int k = 0; k < 3; k++) {
-            CHECK.due(name + ": took(" + k + ")", x.took(k), picture.took(k));
-        }
-        for (int k = 0; k < 14; k++) {
-            CHECK.due(name + ": chance(" + k + ")", x.chance(k), picture.chance(k));
         }
     }
 
@@ -69,14 +51,6 @@ public final class LeavesTest {
         CHECK.due(name + ": chance(" + context + ") behind " + bins, x.chance(context), chanceBehind(bins));
     }
 
-    private static int[][] all(int side, int level) {
-        int[][] levels = new int[side][side];
-        for (int[] row : levels) {
-            Arrays.fill(row, level);
-        }
-        return levels;
-    }
-
     private static int[][] counted(int side, int from) {
         int[][] levels = new int[side][side];
         for (int y = 0; y < side; y++) {
@@ -88,7 +62,8 @@ public final class LeavesTest {
         return levels;
     }
 
-    @Says("THE PICTURE has four BLOCKS of 8 by 8 samples, with the upper left corners (0, 0), (8, 0), (0, 8), (8, 8) (x to the right, y down), in this order.")
+    @Says("THE PICTURE has four BLOCKS of 8 by 8 samples, with the upper left corners (0, 0), (8, 0), (0, 8), (8, "
+        + "8) (x to the right, y down), in this order.")
     static void blocksComeInOrder() {
         PictureWriter picture = writer().block(true);
         picture.leaf(1, Pictures.one(4, 0, 0, 11)).leaf(1, null).leaf(1, null).leaf(1, Pictures.one(4, 3, 3, 12));
@@ -107,7 +82,8 @@ public final class LeavesTest {
         }
     }
 
-    @Says("For each: bin SPLIT, context 0 + how many of the blocks to its left and above it (as far as there are such) are split.")
+    @Says("For each: bin SPLIT, context 0 + how many of the blocks to its left and above it (as far as there are "
+        + "such) are split.")
     static void contextsOfSplit() {
         for (int split = 0; split < 8; split++) {
             int[] is = {1, split & 1, split >> 1 & 1, split >> 2};
@@ -130,7 +106,8 @@ public final class LeavesTest {
         }
     }
 
-    @Says("If it is 1, the block is SPLIT into four LEAVES of SIDE 4, in the same order; otherwise it is one leaf of side 8.")
+    @Says("If it is 1, the block is SPLIT into four LEAVES of SIDE 4, in the same order; otherwise it is one leaf "
+        + "of side 8.")
     static void leavesOfABlockComeInOrder() {
         PictureWriter picture = writer().block(true);
         for (int i = 0; i < 4; i++) {
@@ -153,7 +130,9 @@ public final class LeavesTest {
         }
     }
 
-    @Says({"A leaf of side N with the corner (X, Y):", "Bin SAME, context 3: if 1, the MODE is that of the leaf with the sample (X - 1, Y), 1 if there is no such sample;"})
+    @Says({"A leaf of side N with the corner (X, Y):",
+        "Bin SAME, context 3: if 1, the MODE is that of the leaf with the sample (X - 1, Y), 1 if there is no such "
+        + "sample;"})
     static void theModeToTheLeft() {
         PictureWriter picture = writer().block(true).leaf(1, Pictures.none(4));
         picture.leaf(6, null).leaf(4, null).leaf(5, null);
@@ -172,20 +151,24 @@ public final class LeavesTest {
 
     @Says("1 if there is no such sample;")
     static void theModeAtTheLeftRimIs1() {
-        // Each leaf at the rim has SAME, and all others have mode 7.
-        PictureWriter picture = writer().block(true).leaf(1, Pictures.none(4)).leaf(7, null).leaf(1, null).leaf(7, null);
-        picture.block(false).leaf(7, null).block(true).leaf(1, null).leaf(7, null).leaf(1, null).leaf(7, null);
+        // At the rim there are mode 1, then 5, then SAME and 6; all other leaves have mode 7.
+        PictureWriter picture = writer().block(true).leaf(1, Pictures.none(4)).leaf(7, null).leaf(5, null).leaf(7, null);
+        picture.block(false).leaf(7, null).block(true).leaf(1, null).leaf(7, null).leaf(6, null).leaf(7, null);
         picture.block(false).leaf(7, null);
         Subject x = decoded("rim", picture, 10);
+        int[] rim = {1, 5, 1, 6};
         for (int y = 0; y < 16; y++) {
-            CHECK.due("mode(0, " + y + ")", x.mode(0, y), 1);
+            CHECK.due("mode(0, " + y + ")", x.mode(0, y), rim[y / 4]);
             CHECK.due("mode(4, " + y + ")", x.mode(4, y), 7);
             CHECK.due("mode(15, " + y + ")", x.mode(15, y), 7);
         }
-        CHECK.due("took(1)", x.took(1), 12);
-        chanceIs("rim", x, 3, "1010110101");
-        picture = restIsGrey(Pictures.greyBlock(writer()).block(false).leaf(7, null), 1).block(false).leaf(1, null);
-        CHECK.due("a large leaf at the rim", decoded("large", picture, 7).mode(0, 8), 1);
+        CHECK.due("took(1)", x.took(1), 18);
+        chanceIs("rim", x, 3, "1000110001");
+        picture = writer().block(true).leaf(1, Pictures.none(4)).leaf(7, null).leaf(5, null).leaf(7, null);
+        picture.block(false).leaf(7, null).block(false).leaf(1, null).block(false).leaf(1, null);
+        x = decoded("large", picture, 7);
+        CHECK.due("a large leaf at the rim", x.mode(0, 8), 1);
+        CHECK.due("took(1)", x.took(1), 9);
     }
 
     @Says("if 0, it is the number of three free bits (the first is the highest).")
@@ -203,15 +186,15 @@ public final class LeavesTest {
             for (int i = 0; i < 256; i++) {
                 CHECK.due("mode(" + i % 16 + ", " + i / 16 + ")", x.mode(i % 16, i / 16), due[i / 64][i % 16 / 4]);
             }
-            takenAsWritten("mode " + mode, x, picture);
+            Pictures.takenAsWritten(CHECK, "mode " + mode, x, picture);
         }
     }
 
     @Says("Bin CODED, context 4 for N = 4, 5 for N = 8.")
     static void contextsOfCoded() {
         PictureWriter picture = writer().block(true);
-        picture.leaf(1, all(4, 1)).leaf(1, null).leaf(1, Pictures.none(4)).leaf(1, null);
-        picture.block(false).leaf(1, null).block(false).leaf(1, all(8, 1)).block(false).leaf(1, Pictures.none(8));
+        picture.leaf(1, Pictures.all(4, 1)).leaf(1, null).leaf(1, Pictures.none(4)).leaf(1, null);
+        picture.block(false).leaf(1, null).block(false).leaf(1, Pictures.all(8, 1)).block(false).leaf(1, Pictures.none(8));
         Subject x = decoded("coded", picture, 7);
         chanceIs("coded", x, 4, "1010");
         chanceIs("coded", x, 5, "011");
@@ -222,18 +205,21 @@ public final class LeavesTest {
         // The picture before has levels everywhere, and so has the leaf before.
         PictureWriter full = writer().block(true);
         for (int i = 0; i < 4; i++) {
-            full.leaf(1, all(4, 1));
+            full.leaf(1, Pictures.all(4, 1));
         }
-        full.block(false).leaf(1, all(8, -1)).block(false).leaf(1, all(8, 1)).block(false).leaf(1, all(8, 1));
-        PictureWriter picture = writer().block(true).leaf(1, all(4, 1)).leaf(1, null).leaf(1, all(4, 1)).leaf(1, null);
-        picture.block(false).leaf(1, null).block(false).leaf(1, all(8, 1)).block(false).leaf(1, null);
+        for (int i = 0; i < 3; i++) {
+            full.block(false).leaf(1, Pictures.all(8, -1));
+        }
+        PictureWriter picture = writer().block(true).leaf(1, Pictures.all(4, 1)).leaf(1, null);
+        picture.leaf(1, Pictures.all(4, 1)).leaf(1, null);
+        picture.block(false).leaf(1, null).block(false).leaf(1, Pictures.all(8, 1)).block(false).leaf(1, null);
         Subject x = new Bytes().unit(1, PARAMETERS.toBytes()).unit(2, full.toBytes()).unit(2, picture.toBytes()).fed();
         CHECK.due("decode()", x.decode(), 7);
-        levelsAre("coded", x, 0, 0, all(4, 1));
+        levelsAre("coded", x, 0, 0, Pictures.all(4, 1));
         levelsAre("not coded", x, 4, 0, Pictures.none(4));
         levelsAre("not coded", x, 4, 4, Pictures.none(4));
         levelsAre("not coded", x, 8, 0, Pictures.none(8));
-        levelsAre("coded", x, 0, 8, all(8, 1));
+        levelsAre("coded", x, 0, 8, Pictures.all(8, 1));
         levelsAre("not coded", x, 8, 8, Pictures.none(8));
     }
 
@@ -241,11 +227,13 @@ public final class LeavesTest {
     static void skipIsReadForSmallCodedLeavesAlone() {
         for (int skips = 0; skips <= 1; skips++) {
             PictureWriter picture = new PictureWriter(false, skips == 1).block(true);
-            picture.leaf(1, true, all(4, 1)).leaf(1, null).leaf(1, false, all(4, 1)).leaf(1, true, Pictures.none(4));
-            picture.block(false).leaf(1, all(8, 1)).block(false).leaf(1, null).block(false).leaf(1, Pictures.none(8));
+            picture.leaf(1, true, Pictures.all(4, 1)).leaf(1, null);
+            picture.leaf(1, false, Pictures.all(4, 1)).leaf(1, true, Pictures.none(4));
+            picture.block(false).leaf(1, Pictures.all(8, 1)).block(false).leaf(1, null);
+            picture.block(false).leaf(1, Pictures.none(8));
             Subject x = Pictures.decoded(CHECK, "SKIPS " + skips, Bits.head(3, 0, skips, 0, 0), picture, 7);
             chanceIs("SKIPS " + skips, x, 6, skips == 1 ? "101" : "");
-            takenAsWritten("SKIPS " + skips, x, picture);
+            Pictures.takenAsWritten(CHECK, "SKIPS " + skips, x, picture);
         }
     }
 
@@ -255,7 +243,7 @@ public final class LeavesTest {
         PictureWriter picture = new PictureWriter(false, true).block(true);
         picture.leaf(1, true, Pictures.none(4)).leaf(1, null).leaf(1, null).leaf(1, true, Pictures.none(4));
         picture.block(false).leaf(1, Pictures.one(8, 0, 0, 8));
-        restIsGrey(picture, 2);
+        Pictures.greyLeaves(picture, 2);
         Subject x = Pictures.decoded(CHECK, "skipped, then large", Bits.head(22, 0, 1, 0, 0), picture, 7);
         for (int i = 0; i < 64; i++) {
             CHECK.due("plain(" + (8 + i % 8) + ", " + i / 8 + ")", x.plain(8 + i % 8, i / 8), 136);
@@ -263,7 +251,7 @@ public final class LeavesTest {
         // A small leaf that is not skipped, behind one that is: its residuals are all over it.
         picture = new PictureWriter(false, true).block(true).leaf(1, true, Pictures.none(4));
         picture.leaf(1, false, Pictures.one(4, 0, 0, 8)).leaf(1, null).leaf(1, null);
-        x = Pictures.decoded(CHECK, "skipped, then small", Bits.head(40, 0, 1, 0, 0), restIsGrey(picture, 3), 7);
+        x = Pictures.decoded(CHECK, "skipped, then small", Bits.head(40, 0, 1, 0, 0), Pictures.greyLeaves(picture, 3), 7);
         CHECK.due("plain(7, 3)", x.plain(7, 3), 255);
     }
 
@@ -275,12 +263,13 @@ public final class LeavesTest {
             levels[4 * (g / 2) + 3][4 * (g % 2) + 1] = -g - 10;
         }
         PictureWriter picture = Pictures.greyBlock(writer()).block(false).leaf(1, levels);
-        Subject x = decoded("groups", restIsGrey(picture, 2), 7);
+        Subject x = decoded("groups", Pictures.greyLeaves(picture, 2), 7);
         levelsAre("groups", x, 8, 0, levels);
-        takenAsWritten("groups", x, picture);
+        Pictures.takenAsWritten(CHECK, "groups", x, picture);
     }
 
-    @Says("For each group, if N is 8: bin FILLED, context 7 for the first one, 8 for the others; if it is 0, its levels are 0.")
+    @Says("For each group, if N is 8: bin FILLED, context 7 for the first one, 8 for the others; if it is 0, its "
+        + "levels are 0.")
     static void groupsThatAreNotFilled() {
         for (int filled = 0; filled < 16; filled++) {
             int[][] levels = new int[8][8];
@@ -292,26 +281,29 @@ public final class LeavesTest {
                 others.append(g > 0 ? "" + bin : "");
             }
             String name = "filled " + filled;
-            PictureWriter picture = writer().block(true).leaf(1, all(4, 1)).leaf(1, null).leaf(1, null).leaf(1, all(4, 1));
+            PictureWriter picture = writer().block(true).leaf(1, Pictures.all(4, 1)).leaf(1, null).leaf(1, null);
+            picture.leaf(1, Pictures.all(4, 1));
             picture.block(false).leaf(1, levels);
-            Subject x = decoded(name, restIsGrey(picture, 2), 7);
+            Subject x = decoded(name, Pictures.greyLeaves(picture, 2), 7);
             levelsAre(name, x, 8, 0, levels);
             chanceIs(name, x, 7, "" + (filled & 1));
             chanceIs(name, x, 8, others.toString());
         }
     }
 
-    @Says("For each group, if N is 8: bin FILLED, context 7 for the first one, 8 for the others; if it is 0, its levels are 0.")
+    @Says("For each group, if N is 8: bin FILLED, context 7 for the first one, 8 for the others; if it is 0, its "
+        + "levels are 0.")
     static void filledGroupsMayBeEmpty() {
         PictureWriter picture = Pictures.greyBlock(writer()).block(false).longLeaf(1, false, Pictures.one(8, 2, 6, 5));
-        Subject x = decoded("filled", restIsGrey(picture, 2), 7);
+        Subject x = decoded("filled", Pictures.greyLeaves(picture, 2), 7);
         levelsAre("filled", x, 8, 0, Pictures.one(8, 2, 6, 5));
         chanceIs("filled", x, 7, "1");
         chanceIs("filled", x, 8, "111");
         CHECK.due("took(0)", x.took(0), 4 + 14 + 16 + 4 + 64 + 2);
     }
 
-    @Says("Otherwise (and always for N = 4) the 16 places (x, y) of the group are gone through by rising x + y, those of equal sum by rising x:")
+    @Says("Otherwise (and always for N = 4) the 16 places (x, y) of the group are gone through by rising x + y, "
+        + "those of equal sum by rising x:")
     static void thePlacesOfAGroupInOrder() {
         for (int i = 0; i < 16; i++) {
             // Bins are written one by one: i times NOTZERO is 0, then it is 1; what lies right of that or below has context 10.
@@ -332,9 +324,9 @@ public final class LeavesTest {
                 picture.bin(4, 0);
             }
             String name = "place " + i;
-            Subject x = decoded(name, restIsGrey(picture, 3), 7);
+            Subject x = decoded(name, Pictures.greyLeaves(picture, 3), 7);
             levelsAre(name, x, 0, 0, Pictures.one(4, ORDER[i][0], ORDER[i][1], -1));
-            takenAsWritten(name, x, picture);
+            Pictures.takenAsWritten(CHECK, name, x, picture);
         }
         int[][] first = {{0, 0}, {0, 1}, {1, 0}, {0, 2}, {1, 1}, {2, 0}};
         for (int i = 0; i < first.length; i++) {
@@ -348,16 +340,18 @@ public final class LeavesTest {
         // In a full group one place has context 9, six have 10 and nine have 11, whatever lies round the group.
         PictureWriter picture = writer().block(true);
         for (int i = 0; i < 4; i++) {
-            picture.leaf(1, all(4, 1));
+            picture.leaf(1, Pictures.all(4, 1));
         }
-        picture.block(false).leaf(1, all(8, 1)).block(false).leaf(1, all(8, 1)).block(false).leaf(1, all(8, 1));
+        for (int i = 0; i < 3; i++) {
+            picture.block(false).leaf(1, Pictures.all(8, 1));
+        }
         Subject x = decoded("full groups", picture, 7);
         chanceIs("full groups", x, 9, "1".repeat(16));
         chanceIs("full groups", x, 10, "1".repeat(96));
         chanceIs("full groups", x, 11, "1".repeat(144));
         // One level in the middle, at (1, 1): the places (2, 1) and (1, 2) have context 10, all others 9.
         picture = writer().block(true).leaf(1, Pictures.one(4, 1, 1, 1)).leaf(1, null).leaf(1, null).leaf(1, null);
-        x = decoded("one level", restIsGrey(picture, 3), 7);
+        x = decoded("one level", Pictures.greyLeaves(picture, 3), 7);
         chanceIs("one level", x, 9, "0000" + "1" + "000000000");
         chanceIs("one level", x, 10, "00");
         chanceIs("one level", x, 11, "");
@@ -365,13 +359,14 @@ public final class LeavesTest {
         int[][] rims = Pictures.one(4, 3, 0, 1);
         rims[3][0] = 1;
         picture = writer().block(true).leaf(1, rims).leaf(1, null).leaf(1, null).leaf(1, null);
-        x = decoded("rims", restIsGrey(picture, 3), 7);
+        x = decoded("rims", Pictures.greyLeaves(picture, 3), 7);
         chanceIs("rims", x, 9, "000000" + "1" + "00" + "1" + "0000");
         chanceIs("rims", x, 10, "00");
         chanceIs("rims", x, 11, "");
     }
 
-    @Says("If it is 1: bin TWO, context 12: if 0 the size of the level is 1; otherwise bin THREE, context 13: if 0 it is 2;")
+    @Says("If it is 1: bin TWO, context 12: if 0 the size of the level is 1; otherwise bin THREE, context 13: if 0 "
+        + "it is 2;")
     static void sizesOneTwoAndThree() {
         String[] twos = {"0", "1", "1"};
         String[] threes = {"", "0", "1"};
@@ -379,7 +374,7 @@ public final class LeavesTest {
         for (int size = 1; size <= 3; size++) {
             PictureWriter picture = writer().block(true).leaf(1, Pictures.one(4, 0, 0, size));
             picture.leaf(1, null).leaf(1, null).leaf(1, null);
-            Subject x = decoded("size " + size, restIsGrey(picture, 3), 7);
+            Subject x = decoded("size " + size, Pictures.greyLeaves(picture, 3), 7);
             levelsAre("size " + size, x, 0, 0, Pictures.one(4, 0, 0, size));
             chanceIs("size " + size, x, 12, twos[size - 1]);
             chanceIs("size " + size, x, 13, threes[size - 1]);
@@ -387,7 +382,8 @@ public final class LeavesTest {
         }
     }
 
-    @Says("otherwise free bits: k of them that are 1 and one that is 0 (after six 1 none that is 0), then k bits that are the number r: the size is 2 + 2^k + r.")
+    @Says("otherwise free bits: k of them that are 1 and one that is 0 (after six 1 none that is 0), then k bits "
+        + "that are the number r: the size is 2 + 2^k + r.")
     static void eachSizeFrom3To129() {
         int[] ends = {3, 5, 9, 17, 33, 65, 129};
         int[] freeBits = {1, 3, 5, 7, 9, 11, 12};
@@ -396,11 +392,11 @@ public final class LeavesTest {
             k = size > ends[k] ? k + 1 : k;
             PictureWriter picture = writer().block(true);
             picture.leaf(1, Pictures.one(4, 0, 0, size)).leaf(1, Pictures.one(4, 2, 1, -size)).leaf(1, null).leaf(1, null);
-            Subject x = decoded("size " + size, restIsGrey(picture, 3), 7);
+            Subject x = decoded("size " + size, Pictures.greyLeaves(picture, 3), 7);
             levelsAre("size " + size, x, 0, 0, Pictures.one(4, 0, 0, size));
             levelsAre("size " + size, x, 4, 0, Pictures.one(4, 2, 1, -size));
             CHECK.due("size " + size + ": took(1)", x.took(1), 2 * (freeBits[k] + 1));
-            takenAsWritten("size " + size, x, picture);
+            Pictures.takenAsWritten(CHECK, "size " + size, x, picture);
         }
     }
 
@@ -414,7 +410,7 @@ public final class LeavesTest {
                 levels[place[1]][place[0]] = (below >> i & 1) == 1 ? -i - 1 : i + 1;
             }
             PictureWriter picture = writer().block(true).leaf(1, levels).leaf(1, null).leaf(1, null).leaf(1, null);
-            Subject x = decoded("signs " + below, restIsGrey(picture, 3), 7);
+            Subject x = decoded("signs " + below, Pictures.greyLeaves(picture, 3), 7);
             levelsAre("signs " + below, x, 0, 0, levels);
             CHECK.due("signs " + below + ": took(1)", x.took(1), 4 + 1 + 3);
         }
@@ -430,12 +426,13 @@ public final class LeavesTest {
     private static Subject hideOne(String name, int hide, int[][] levels, int freeBits) {
         PictureWriter picture = new PictureWriter(hide == 1, false).block(true).leaf(1, levels);
         picture.leaf(1, null).leaf(1, null).leaf(1, null);
-        Subject x = Pictures.decoded(CHECK, name, Bits.head(3, hide, 0, 0, 0), restIsGrey(picture, 3), 7);
+        Subject x = Pictures.decoded(CHECK, name, Bits.head(3, hide, 0, 0, 0), Pictures.greyLeaves(picture, 3), 7);
         CHECK.due(name + ": took(1)", x.took(1), freeBits);
         return x;
     }
 
-    @Says("but if HIDE is 1 and the first and the last of these levels are 4 or more apart in the order, the first one has no bit:")
+    @Says("but if HIDE is 1 and the first and the last of these levels are 4 or more apart in the order, the first "
+        + "one has no bit:")
     static void signsAreHiddenFromAWidthOf4On() {
         for (int first = 0; first < 16; first++) {
             for (int last = first + 1; last < 16; last++) {
@@ -495,7 +492,7 @@ public final class LeavesTest {
             due[y + 3][x + 3] = 1 + g % 2;
         }
         PictureWriter picture = Pictures.greyBlock(new PictureWriter(true, false)).block(false).leaf(1, levels);
-        Subject x = Pictures.decoded(CHECK, "groups", Bits.head(3, 1, 0, 0, 0), restIsGrey(picture, 2), 7);
+        Subject x = Pictures.decoded(CHECK, "groups", Bits.head(3, 1, 0, 0, 0), Pictures.greyLeaves(picture, 2), 7);
         levelsAre("groups", x, 8, 0, due);
         CHECK.due("took(1)", x.took(1), 4);
     }

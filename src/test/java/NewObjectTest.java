@@ -45,6 +45,20 @@ public final class NewObjectTest {
     }
 
     @Says("`IntraPicture()`: No bytes, no parameters, no picture.")
+    static void aNewObjectHasRoomFor240Bytes() {
+        Subject x = new Subject();
+        for (int i = 0; i < 30; i++) {
+            CHECK.due("feed " + i, x.feed(0x0909_0909_0909_0909L, 8), true);
+        }
+        CHECK.due("feed of one more", x.feed(9, 1), false);
+        // No zero lies before the first byte.
+        x = Bytes.of(0, 1, 1, 0x80).fed();
+        CHECK.due("units()", x.units(), 0);
+        x = Bytes.of(1, 1, 0x80).fed();
+        CHECK.due("units()", x.units(), 0);
+    }
+
+    @Says("`IntraPicture()`: No bytes, no parameters, no picture.")
     static void aNewObjectHasNothingBesideAnother() {
         Subject one = somePicture().fed();
         CHECK.due("decode()", one.decode() > 0, true);

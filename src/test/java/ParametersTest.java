@@ -64,7 +64,8 @@ public final class ParametersTest {
         parametersAre("in order", x, 23, 1, 0, 1, 3, 3, -2, 2, -3, 6);
     }
 
-    @Says("A CODE is: z bits 0 (if there are seven, it is out of its range), a bit 1, then z bits that are the number r: u = 2^z - 1 + r.")
+    @Says("A CODE is: z bits 0 (if there are seven, it is out of its range), a bit 1, then z bits that are the "
+        + "number r: u = 2^z - 1 + r.")
     static void codesOfEachLength() {
         String[] codes = {
             "1", "010", "011", "00100", "00111", "0001000", "0001111", "000010000", "000011111", "00000100000", "00000110100"};
@@ -302,7 +303,8 @@ public final class ParametersTest {
         readWhole(OUT_OF_BITS, "1 000 01 0001111 010");
     }
 
-    @Says("`int parameter(int k)`: Of the parameters as the latest decode() left them: k = 0 QP, 1 HIDE, 2 SKIPS, 3 EDGES, 4 CLASS, 5 .. 8 OFFSET 0 .. 3, 9 POSITION.")
+    @Says("`int parameter(int k)`: Of the parameters as the latest decode() left them: k = 0 QP, 1 HIDE, 2 SKIPS, 3 "
+        + "EDGES, 4 CLASS, 5 .. 8 OFFSET 0 .. 3, 9 POSITION.")
     static void parametersAreThoseOfTheLatestDecode() {
         Subject x = new Bytes().unit(1, 0x80).fed();
         CHECK.due("not decoded yet", x.parameter(0), -100);
@@ -340,7 +342,8 @@ public final class ParametersTest {
         CHECK.due("decode()", x.decode() > 0, true);
         int sample = x.sample(5, 5);
         int took = x.took(2);
-        for (Bytes more : new Bytes[] {new Bytes().unit(2, 1, 2, 3), new Bytes().unit(1, 0x80), new Bytes().unit(1), Bytes.of(7)}) {
+        Bytes[] all = {new Bytes().unit(2, 1, 2, 3), new Bytes().unit(1, 0x80), new Bytes().unit(1), Bytes.of(7)};
+        for (Bytes more : all) {
             CHECK.due("feed", more.feedTo(x), true);
             parametersAre("fed", x, 9, 1, 0, 0, 0, 0, 0, 0, 0, 0);
             CHECK.due("sample(5, 5)", x.sample(5, 5), sample);

@@ -1,3 +1,5 @@
+import java.util.Arrays;
+
 /** Makes objects that hold a picture, and small rows of levels. */
 final class Pictures {
     private Pictures() {
@@ -28,5 +30,32 @@ final class Pictures {
     /** A first block of four leaves that are all 128. */
     static PictureWriter greyBlock(PictureWriter picture) {
         return picture.block(true).leaf(1, none(4)).leaf(1, null).leaf(1, null).leaf(1, null);
+    }
+
+    /** Levels that are all the same. */
+    static int[][] all(int side, int level) {
+        int[][] levels = new int[side][side];
+        for (int[] row : levels) {
+            Arrays.fill(row, level);
+        }
+        return levels;
+    }
+
+    /** The next blocks, each one leaf without levels and of mode 1. */
+    static PictureWriter greyLeaves(PictureWriter picture, int blocks) {
+        for (int i = 0; i < blocks; i++) {
+            picture.block(false).leaf(1, null);
+        }
+        return picture;
+    }
+
+    /** The chances and the counts are those that the picture was written with. */
+    static void takenAsWritten(Check check, String name, Subject x, PictureWriter picture) {
+        for (int k = 0; k < 3; k++) {
+            check.due(name + ": took(" + k + ")", x.took(k), picture.took(k));
+        }
+        for (int k = 0; k < 14; k++) {
+            check.due(name + ": chance(" + k + ")", x.chance(k), picture.chance(k));
+        }
     }
 }

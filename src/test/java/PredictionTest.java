@@ -249,7 +249,8 @@ public final class PredictionTest {
         }
     }
 
-    @Says("mode 0: ((N - 1 - x) * LEFT(y) + (x + 1) * ABOVE(N) + (N - 1 - y) * ABOVE(x) + (y + 1) * LEFT(N) + N) / (2N);")
+    @Says("mode 0: ((N - 1 - x) * LEFT(y) + (x + 1) * ABOVE(N) + (N - 1 - y) * ABOVE(x) + (y + 1) * LEFT(N) + N) / "
+        + "(2N);")
     static void mode0() {
         inAllPlaces(0);
     }
@@ -257,6 +258,23 @@ public final class PredictionTest {
     @Says("1: (the sum of LEFT(0) .. LEFT(N - 1) and ABOVE(0) .. ABOVE(N - 1), + N) / (2N);")
     static void mode1() {
         inAllPlaces(1);
+        // 7 + 8 is less than 16, 8 + 8 is not; 3 + 4 is less than 8, 4 + 4 is not.
+        predictedAre("a spike of 7", belowASpike(2, 7, 1), 0, 8, 8, (x, y) -> 128);
+        predictedAre("a spike of 8", belowASpike(2, 8, 1), 0, 8, 8, (x, y) -> 129);
+        predictedAre("a spike of -8", belowASpike(2, -8, 1), 0, 8, 8, (x, y) -> 128);
+        predictedAre("a spike of -9", belowASpike(2, -9, 1), 0, 8, 8, (x, y) -> 127);
+        for (int spike = 3; spike <= 4; spike++) {
+            int due = spike == 3 ? 128 : 129;
+            predictedAre("a spike of " + spike, besideASpike(spike, 1), 4, 0, 4, (x, y) -> due);
+        }
+    }
+
+    /** A leaf of 128 but for one sample, at (3, 1), and another leaf to the right of it. */
+    private static Subject besideASpike(int spike, int mode) {
+        PictureWriter picture = new PictureWriter(false, true).block(true).leaf(1, true, Pictures.one(4, 3, 1, spike));
+        picture.leaf(mode, null).leaf(1, null).leaf(1, null);
+        picture.block(false).leaf(1, null).block(false).leaf(1, null).block(false).leaf(1, null);
+        return Pictures.decoded(CHECK, "beside a spike", PARAMETERS, picture, 7);
     }
 
     @Says("2: LEFT(y);")
@@ -269,9 +287,18 @@ public final class PredictionTest {
         inAllPlaces(3);
     }
 
-    @Says("4: with a = 13 * (y + 1), i = a >> 5, f = a & 31: ((32 - f) * ABOVE(x + i) + f * ABOVE(x + i + 1) + 16) >> 5;")
+    @Says("4: with a = 13 * (y + 1), i = a >> 5, f = a & 31: ((32 - f) * ABOVE(x + i) + f * ABOVE(x + i + 1) + 16) "
+        + ">> 5;")
     static void mode4() {
         inAllPlaces(4);
+        // In row 0 f is 13: 13 * 11 is 143, and 143 + 16 >> 5 is 4; 19 * 11 is 209, and 209 + 16 >> 5 is 7.
+        Subject x = belowASpike(2, 11, 4);
+        CHECK.due("a spike of 11, before it", x.predicted(1, 8), 132);
+        CHECK.due("a spike of 11, below it", x.predicted(2, 8), 135);
+        x = belowASpike(2, -5, 4);
+        // 13 * -5 is -65, and -65 + 16 >> 5 is -2; 19 * -5 is -95, and -95 + 16 >> 5 is -3.
+        CHECK.due("a spike of -5, before it", x.predicted(1, 8), 126);
+        CHECK.due("a spike of -5, below it", x.predicted(2, 8), 125);
     }
 
     @Says("5: ABOVE(x + y + 1);")
@@ -282,6 +309,14 @@ public final class PredictionTest {
     @Says("6: with a = 26 * (x + 1), i = a >> 5, f = a & 31: ((32 - f) * LEFT(y + i) + f * LEFT(y + i + 1) + 16) >> 5;")
     static void mode6() {
         inAllPlaces(6);
+        // In column 0 f is 26: 26 * 3 is 78, and 78 + 16 >> 5 is 2; 6 * 3 is 18, and 18 + 16 >> 5 is 1.
+        Subject x = besideASpike(3, 6);
+        CHECK.due("a spike of 3, before it", x.predicted(4, 0), 130);
+        CHECK.due("a spike of 3, beside it", x.predicted(4, 1), 129);
+        // 26 * -5 is -130, and -130 + 16 >> 5 is -4; 6 * -5 is -30, and -30 + 16 >> 5 is -1.
+        x = besideASpike(-5, 6);
+        CHECK.due("a spike of -5, before it", x.predicted(4, 0), 124);
+        CHECK.due("a spike of -5, beside it", x.predicted(4, 1), 127);
     }
 
     @Says("7: ABOVE(x - y - 1) if x > y, LEFT(y - x - 1) if x < y, the CORNER if they are equal.")
@@ -289,7 +324,8 @@ public final class PredictionTest {
         inAllPlaces(7);
     }
 
-    @Says({"PREDICTION. The REFERENCES of a leaf are LEFT(k), the sample at (X - 1, Y + k), and ABOVE(k), the sample at (X + k, Y - 1), k from 0 to 2N - 1, and the CORNER, the sample at (X - 1, Y - 1).",
+    @Says({"PREDICTION. The REFERENCES of a leaf are LEFT(k), the sample at (X - 1, Y + k), and ABOVE(k), the "
+        + "sample at (X + k, Y - 1), k from 0 to 2N - 1, and the CORNER, the sample at (X - 1, Y - 1).",
         "Then at (x, y) of the leaf, x and y from 0 to N - 1:"})
     static void theFirstAndTheLastReferences() {
         // ABOVE(2N - 1) is the last sample that mode 5 takes, LEFT(2N - 1) the last that mode 6 takes in a small leaf.
@@ -352,26 +388,33 @@ public final class PredictionTest {
     @Says("if none is there, all are 128;")
     static void theFirstLeafIsPredicted128() {
         predictedAre("first leaf", smallDots(1, 0, 1), 0, 0, 4, (x, y) -> 128);
-        predictedAre("first leaf of the next picture", decodedTwice(), 0, 0, 4, (x, y) -> 128);
+        Subject x = new Bytes().unit(1, 0x80).unit(2, 0x12, 0x34).unit(2, 0x56, 0x78).fed();
+        CHECK.due("decode()", x.decode() > 0, true);
+        predictedAre("first leaf of the second picture", x, 0, 0, 4, (a, b) -> 128);
     }
 
-    /** A picture behind another whose samples are not 128: they are no references any more. */
-    private static Subject decodedTwice() {
-        PictureWriter picture = Pictures.greyBlock(new PictureWriter(false, true));
-        picture.block(false).leaf(1, null).block(false).leaf(1, null).block(false).leaf(1, null);
-        PictureWriter before = new PictureWriter(false, true).block(true);
-        before.leaf(1, true, dots(4, 1)).leaf(2, null).leaf(3, null).leaf(4, null);
-        before.block(false).leaf(2, null).block(false).leaf(3, null).block(false).leaf(7, null);
+    @Says("One is there if it lies in the picture and its leaf came before.")
+    static void leavesOfThePictureBeforeAreNotThere() {
+        // Its samples are not 128; all of the next one's are, though it looks far to the left below and above to the right.
+        PictureWriter before = new PictureWriter(false, true).block(true).leaf(1, true, Pictures.all(4, 40)).leaf(2, null);
+        before.leaf(3, null).leaf(2, null).block(false).leaf(2, null).block(false).leaf(3, null).block(false).leaf(2, null);
+        PictureWriter picture = new PictureWriter(false, true).block(true).leaf(1, Pictures.none(4)).leaf(6, null);
+        picture.leaf(5, null).leaf(5, null).block(true).leaf(6, null).leaf(6, null).leaf(6, null).leaf(5, null);
+        picture.block(true).leaf(5, null).leaf(6, null).leaf(5, null).leaf(5, null).block(false).leaf(6, null);
         Subject x = Pictures.bytes(PARAMETERS, before).unit(2, picture.toBytes()).fed();
-        CHECK.due("decode()", x.decode(), 7);
+        CHECK.due("decode()", x.decode(), 13);
         for (int i = 0; i < 256; i++) {
-            CHECK.due("predicted", x.predicted(i % 16, i / 16), 128);
+            CHECK.due("predicted(" + i % 16 + ", " + i / 16 + ")", x.predicted(i % 16, i / 16), 128);
         }
-        return x;
+        Subject alone = Pictures.decoded(CHECK, "the picture before", PARAMETERS, before, 7);
+        for (int i = 0; i < 256; i++) {
+            CHECK.due("plain(" + i % 16 + ", " + i / 16 + ") of the picture before", alone.plain(i % 16, i / 16), 168);
+        }
     }
 
     @Says({"They are gone through from LEFT(2N - 1) to LEFT(0), the CORNER, ABOVE(0) to ABOVE(2N - 1):",
-        "otherwise the first one, if it is not there, becomes what the first one is that is there, and then each that is not there what the one before it is."})
+        "otherwise the first one, if it is not there, becomes what the first one is that is there, and then each "
+        + "that is not there what the one before it is."})
     static void gapsAreFilledFromTheOneBefore() {
         // At the upper rim the CORNER and ABOVE are LEFT(0); at the left rim LEFT and the CORNER are ABOVE(0).
         for (int leaf = 1; leaf < 4; leaf++) {
@@ -387,7 +430,7 @@ public final class PredictionTest {
             CHECK.due("LEFT(2) at the upper rim", upper.predicted(at, 3), upper.plain(at - 1, 2));
             CHECK.due("ABOVE(2) at the left rim", rim.predicted(3, at), rim.plain(2, at - 1));
         }
-        // The last leaf of the first block: what lies above it to the right is not there, and neither what lies to the left below.
+        // The last leaf of the first block: neither what lies above it to the right is there nor what lies to the left below.
         PictureWriter picture = new PictureWriter(false, true).block(true).leaf(1, Pictures.none(4));
         picture.leaf(3, true, lowestRow(10, 1)).leaf(1, true, rightColumn(-5, -1)).leaf(5, null);
         picture.block(false).leaf(1, null).block(false).leaf(1, null).block(false).leaf(1, null);
@@ -424,7 +467,8 @@ public final class PredictionTest {
         return here ? Pictures.one(4, spikeX - left, 3, spike) : Pictures.none(4);
     }
 
-    @Says("each of them but the first and the last then becomes (the one before + 2 * itself + the one behind + 2) >> 2, all from what they were.")
+    @Says("each of them but the first and the last then becomes (the one before + 2 * itself + the one behind + 2) "
+        + ">> 2, all from what they were.")
     static void referencesAreSmoothed() {
         for (int spike : new int[] {-4, -3, -2, -1, 1, 2, 3, 4, 100}) {
             // Mode 5 takes ABOVE(1) to ABOVE(15): the spike at 9, half of it there and a quarter beside it.
@@ -448,7 +492,7 @@ public final class PredictionTest {
     static void onlySomeModesAreSmoothed() {
         // A spike of 64 at ABOVE(2): what comes of it below, in the modes that take it as it is and in those that do not.
         predictedAre("mode 3", belowASpike(2, 64, 3), 0, 8, 8, (x, y) -> x == 2 ? 192 : 128);
-        predictedAre("mode 1", belowASpike(2, 64, 1), 0, 8, 8, (x, y) -> 132);
+        predictedAre("mode 1", belowASpike(7, 64, 1), 0, 8, 8, (x, y) -> 132);
         predictedAre("mode 5", belowASpike(2, 64, 5), 0, 8, 8,
             (x, y) -> x + y == 1 ? 160 : x + y == 0 || x + y == 2 ? 144 : 128);
         predictedAre("mode 7", belowASpike(2, 64, 7), 0, 8, 8,

@@ -223,7 +223,8 @@ public final class ResidualsTest {
         }
     }
 
-    @Says("For N = 8 M(0, n) is 64, and for k from 1 on M(k, n) is C((2n + 1) * k % 32), where C(0) .. C(8) are 91 89 83 75 64 50 36 18 0, C(16 - j) = -C(j) for j = 0 .. 8, and C(32 - j) = C(j) for j = 1 .. 16.")
+    @Says("For N = 8 M(0, n) is 64, and for k from 1 on M(k, n) is C((2n + 1) * k % 32), where C(0) .. C(8) are 91 "
+        + "89 83 75 64 50 36 18 0, C(16 - j) = -C(j) for j = 0 .. 8, and C(32 - j) = C(j) for j = 1 .. 16.")
     static void eachWaveOfALargeLeaf() {
         for (int i = 0; i < 128; i++) {
             int kx = i % 8;

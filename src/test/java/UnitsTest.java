@@ -139,7 +139,7 @@ public final class UnitsTest {
     @Says("True; false, changing nothing, if n is not 1 .. 8,")
     static void countsThatAreNotOneToEightAreRefused() {
         Subject x = Bytes.of(0, 0, 1, 5).fed();
-        for (int n : new int[] {0, -1, 9, 10, 256, 257, -8, -247, Integer.MIN_VALUE, Integer.MIN_VALUE + 1, Integer.MAX_VALUE}) {
+        for (int n : new int[] {0, -1, 9, 10, 256, 257, -8, -247, Integer.MIN_VALUE, Integer.MAX_VALUE}) {
             CHECK.due("feed(6, " + n + ")", x.feed(6, n), false);
             CHECK.due("nothing was fed", x.payload(0, -1), 1);
         }
