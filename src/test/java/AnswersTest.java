@@ -76,6 +76,22 @@ public final class AnswersTest {
         }
     }
 
+    @Says("Decodes still pictures of 16 by 16 grey samples from a row of bytes: units behind start marks, parameters in "
+        + "codes of different lengths, and a picture whose leaves, predictions and coefficients come out of an adaptive "
+        + "arithmetic decoder; then edges are smoothed and offsets added.")
+    static void aPictureHas16By16GreySamples() {
+        int[] edgesAndOffsets = Bits.head(37, 1, 1, 1, 3).offsets(7, -7, 7, -7).number(6, 3).toBytes();
+        for (int first = 0; first < 256; first += 51) {
+            Subject x = decoded(new Bytes().unit(1, edgesAndOffsets).unit(2, first, 0x3C, 0xA5, 0x71, first), true);
+            int samples = 0;
+            for (int place = 0; place < 24 * 24; place++) {
+                int grey = x.sample(place % 24 - 4, place / 24 - 4);
+                samples += grey >= 0 && grey <= 255 ? 1 : 0;
+            }
+            CHECK.due("first byte " + first + ": samples", samples, 256);
+        }
+    }
+
     @Says("-1 if there is no picture or the place does not lie in it.")
     static void noSample() {
         noPlace("sample", -1, (x, a, b) -> x.sample(a, b));

@@ -7,7 +7,7 @@ import java.util.Arrays;
 
 /**
  * The tests name the words of the document that they stand for: those words stand in it, and there are no others under
- * "Terms" and the promises that no test stands for.
+ * "What it is", "Terms" and the promises that no test stands for.
  */
 public final class DocumentTest {
     private static final Check CHECK = new Check("DocumentTest");
@@ -22,11 +22,9 @@ public final class DocumentTest {
         for (String file : files) {
             markAll(Class.forName(file.substring(0, file.length() - ".java".length())), document, tested);
         }
-        int from = document.indexOf("UNITS. The bytes");
-        int to = document.indexOf("How the state is held");
-        CHECK.due("the document has its parts", from > 0 && to > from, true);
-        String untested = untested(document, tested, from, to);
-        CHECK.due("words that no test stands for: " + untested, untested.length(), 0);
+        // The face between the two parts is looked at by FaceTest.
+        allTested(document, tested, "Decodes still pictures", "public final class IntraPicture {");
+        allTested(document, tested, "UNITS. The bytes", "How the state is held");
         CHECK.end();
     }
 
@@ -53,6 +51,14 @@ public final class DocumentTest {
                 }
             }
         }
+    }
+
+    private static void allTested(String document, boolean[] tested, String first, String behind) {
+        int from = document.indexOf(first);
+        int to = document.indexOf(behind);
+        CHECK.due("the document has a part from \"" + first + "\" to \"" + behind + "\"", from >= 0 && to > from, true);
+        String untested = untested(document, tested, Math.max(from, 0), to);
+        CHECK.due("words that no test stands for: " + untested, untested.length(), 0);
     }
 
     private static String untested(String document, boolean[] tested, int from, int to) {

@@ -1,34 +1,36 @@
+import java.io.IOException;
 import java.lang.reflect.Constructor;
+import java.lang.reflect.Executable;
 import java.lang.reflect.Field;
 import java.lang.reflect.Method;
 import java.lang.reflect.Modifier;
-import java.util.Arrays;
+import java.nio.file.Files;
+import java.nio.file.Path;
 import java.util.Set;
+import java.util.StringJoiner;
 import java.util.TreeSet;
+import java.util.regex.Matcher;
+import java.util.regex.Pattern;
 
 /** The public face is the document's, and nothing else can be seen from outside (rules 1 and 5 of LANGUAGE.md). */
 public final class FaceTest {
     private static final Check CHECK = new Check("FaceTest");
-    private static final Set<String> METHODS = new TreeSet<>(Arrays.asList(
-        "boolean feed[long, int]", "void clear[]", "int units[]", "int payload[int, int]", "int decode[]",
-        "int parameter[int]", "int sample[int, int]", "int plain[int, int]", "int predicted[int, int]",
-        "int level[int, int]", "int mode[int, int]", "int side[int, int]", "int chance[int]", "int took[int]"));
+    private static final Path DOCUMENT = Path.of("..", "shared", "DOC.md");
+    private static final Pattern LINE = Pattern.compile("^    public (.*);$", Pattern.MULTILINE);
 
-    public static void main(String[] args) {
+    public static void main(String[] args) throws IOException {
         Class<?> face = IntraPicture.class;
         CHECK.due("public and final", Modifier.isPublic(face.getModifiers()) && Modifier.isFinal(face.getModifiers()), true);
-        Constructor<?>[] constructors = face.getDeclaredConstructors();
-        CHECK.due("one constructor", constructors.length, 1);
-        CHECK.due("without parameters", constructors[0].getParameterCount(), 0);
-        CHECK.due("public", Modifier.isPublic(constructors[0].getModifiers()), true);
         Set<String> found = new TreeSet<>();
-        for (Method method : face.getDeclaredMethods()) {
-            if (!Modifier.isPrivate(method.getModifiers())) {
-                CHECK.due(method.getName() + " is public", Modifier.isPublic(method.getModifiers()), true);
-                found.add(signature(method));
-            }
+        for (Constructor<?> constructor : face.getDeclaredConstructors()) {
+            keepIfSeen(constructor, face.getName(), found);
         }
-        CHECK.due("the methods are those of the document, not " + found, found.equals(METHODS), true);
+        for (Method method : face.getDeclaredMethods()) {
+            keepIfSeen(method, method.getReturnType().getName() + " " + method.getName(), found);
+        }
+        Set<String> due = faceOfTheDocument();
+        CHECK.due("the document has a constructor and 14 methods", due.size(), 15);
+        CHECK.due("the face is that of the document, not " + found, found.equals(due), true);
         for (Field field : face.getDeclaredFields()) {
             CHECK.due(field.getName() + " is private", Modifier.isPrivate(field.getModifiers()), true);
         }
@@ -58,12 +60,32 @@ public final class FaceTest {
         }
     }
 
-    private static String signature(Method method) {
-        StringBuilder types = new StringBuilder();
-        for (Class<?> type : method.getParameterTypes()) {
-            types.append(types.length() == 0 ? "" : ", ").append(type.getName());
+    private static void keepIfSeen(Executable member, String name, Set<String> found) {
+        if (!Modifier.isPrivate(member.getModifiers())) {
+            CHECK.due(name + " is public", Modifier.isPublic(member.getModifiers()), true);
+            CHECK.due(name + " is static", Modifier.isStatic(member.getModifiers()), false);
+            CHECK.due(name + " throws", member.getExceptionTypes().length, 0);
+            StringJoiner types = new StringJoiner(", ", name + "(", ")");
+            for (Class<?> type : member.getParameterTypes()) {
+                types.add(type.getName());
+            }
+            found.add(types.toString());
         }
-        return method.getReturnType().getName() + " " + method.getName() + "[" + types + "]";
+    }
+
+    /** What the document has under "The public face", without the names of the parameters. */
+    private static Set<String> faceOfTheDocument() throws IOException {
+        String document = Files.readString(DOCUMENT);
+        int from = document.indexOf("## The public face");
+        int to = document.indexOf("## Terms");
+        CHECK.due("the document has its parts", from >= 0 && to > from, true);
+        String text = document.substring(from, to);
+        CHECK.due("a final class", text.contains("public final class IntraPicture {"), true);
+        Set<String> face = new TreeSet<>();
+        for (Matcher line = LINE.matcher(text); line.find();) {
+            face.add(line.group(1).replaceAll(" \\w+([,)])", "$1"));
+        }
+        return face;
     }
 
     private static void staticFieldsAreFinal(Class<?> owner) {

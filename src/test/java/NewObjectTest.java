@@ -67,15 +67,6 @@ public final class NewObjectTest {
         CHECK.due("the first stays", one.parameter(0), 20);
     }
 
-    @Says("`IntraPicture()`: No bytes, no parameters, no picture.")
-    static void aNewObjectIsFilledAsTheReadmeSays() {
-        Subject x = new Subject();
-        CHECK.due("parameters", x.feed(0x8001010000L, 5), true);
-        CHECK.due("picture", x.feed(0x02010000L, 4), true);
-        CHECK.due("decode()", x.decode(), 16);
-        CHECK.due("sample(3, 12)", x.sample(3, 12) >= 0, true);
-    }
-
     @Says("`void clear()`: All as at the beginning.")
     static void clearForgetsBytesParametersAndPicture() {
         Subject x = somePicture().fed();
@@ -153,7 +144,7 @@ public final class NewObjectTest {
         }
     }
 
-    @Says("An object is used for at most 512 calls after it has been made;")
+    @Says("An object is used for at most 512 calls after it has been made; what later calls answer is free.")
     static void call512IsAnsweredAsAnyOther() {
         IntraPicture x = new IntraPicture();
         int calls = 0;
